@@ -3,7 +3,19 @@ public final class AllTests {
     private AllTests() {
     }
 
-    public static void main(String[] args) {
+    /** Takes the folder of the compiled classes. */
+    public static void main(String[] args) throws java.io.IOException {
+        TapeTest.run();
+        ActTest.run();
+        UndoTest.run();
+        PlaceTest.run();
+        SearchTest.run();
+        HiddenTest.run();
+        RecordTest.run();
+        TextTest.run();
+        KeptTest.run();
+        FaceTest.run(args.length > 0 ? args[0] : ".");
+        RoomTest.run();
         ModelTest.run(60);
         System.out.println(Check.passed + " passed, " + Check.failed + " failed");
         if (Check.failed != 0 || Check.passed == 0) {
