@@ -186,6 +186,17 @@ final class ActTest {
         u.setCursor(1);
         Check.dueThrow("P10 block above 3000 letters", IllegalStateException.class, u::paste);
         Check.due("P10 refused: text", 2961, () -> u.count(0));
+        Check.due("P10 what comes behind is not refused", 1, () -> u.erase(1));
+        Check.tape(u, "b");
+        Check.due("P10 nor this", 2961, u::type);
+        Cursorroom t = Check.room("\n".repeat(99));
+        t.copyBlock(0, 100, 0, 40);
+        t.replace(0, 99);
+        Check.dueThrow("P10 4099 letters into an empty text", IllegalStateException.class, t::paste);
+        Check.due("P10 it stays empty", 0, () -> t.count(0));
+        t.clearTape();
+        t.replace(0, 0);
+        Check.dueThrow("P10 refused again", IllegalStateException.class, t::paste);
     }
 
     private static void promise11() {

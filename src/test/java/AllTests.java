@@ -12,11 +12,12 @@ public final class AllTests {
         SearchTest.run();
         HiddenTest.run();
         RecordTest.run();
+        BoundTest.run();
         TextTest.run();
         KeptTest.run();
         FaceTest.run(args.length > 0 ? args[0] : ".");
         RoomTest.run();
-        ModelTest.run(60);
+        ModelTest.run(140);
         System.out.println(Check.passed + " passed, " + Check.failed + " failed");
         if (Check.failed != 0 || Check.passed == 0) {
             System.exit(1);

@@ -32,6 +32,19 @@ final class KeptTest {
         return x.sameShare();
     }
 
+    /** The beginnings of lines inside a room, to break them. */
+    private static int[] begins(Cursorroom x) {
+        try {
+            java.lang.reflect.Field sheet = Cursorroom.class.getDeclaredField("sheet");
+            sheet.setAccessible(true);
+            java.lang.reflect.Field begins = sheet.getType().getDeclaredField("begins");
+            begins.setAccessible(true);
+            return (int[]) begins.get(sheet.get(x));
+        } catch (ReflectiveOperationException e) {
+            throw new IllegalStateException(e);
+        }
+    }
+
     private static void promise46() {
         Cursorroom x = Check.room("a\nb\n");
         Check.due("P46 lines", 3, x::keep);
@@ -59,6 +72,13 @@ final class KeptTest {
         Check.due("P47 sums that are the same", 2, () -> differences("Aa", "BB"));
         Check.due("P47 a part of a line", 2, () -> differences("abc", "ab"));
         Check.due("P47 blanks count", 2, () -> differences("a ", "a"));
+        Cursorroom x = Check.room("a\nb\nc\nd");
+        x.keep();
+        x.differences();
+        become(x, "x\ny\nz\nv");
+        Check.due("P47 asked again", 8, x::differences);
+        become(x, "x\nb\nz\nv\nd\nw");
+        Check.due("P47 asked once more", 6, x::differences);
     }
 
     private static void promise48() {
@@ -71,6 +91,12 @@ final class KeptTest {
     }
 
     private static void promise49() {
+        Cursorroom broken = Check.room("a\nb");
+        begins(broken)[1] = 3;
+        Check.due("P49 a beginning that is not so", 1, broken::errors);
+        begins(broken)[1] = 2;
+        begins(broken)[0] = 1;
+        Check.due("P49 another one", 1, broken::errors);
         Cursorroom x = new Cursorroom();
         Check.due("P49 new", 0, x::errors);
         Check.tape(x, "a\nb\n");

@@ -69,12 +69,21 @@ final class Model {
         if (l < 0 || l >= lines().length) throw new IndexOutOfBoundsException();
     }
 
+    private String splitText = "";
+    private String[] split = {""};
+
     String[] lines() {
-        return now.text.split("\n", -1);
+        if (!splitText.equals(now.text)) {
+            splitText = now.text;
+            split = splitText.split("\n", -1);
+        }
+        return split;
     }
 
     static int lineIn(String text, int p) {
-        return (int) text.substring(0, p).chars().filter(c -> c == 10).count();
+        int line = 0;
+        for (int i = 0; i < p; i++) if (text.charAt(i) == '\n') line++;
+        return line;
     }
 
     int start(int l) {
@@ -89,11 +98,11 @@ final class Model {
     }
 
     static boolean word(char c) {
-        return (c + "").matches("[A-Za-z0-9_]");
+        return "ABCDEFGHIJKLMNOPQRSTUVWXYZabcdefghijklmnopqrstuvwxyz0123456789_".indexOf(c) >= 0;
     }
 
     boolean blankLine(int l) {
-        return lines()[l].matches("[ \t]*");
+        return lines()[l].replace("\t", " ").trim().isEmpty();
     }
 
     int open(List<Boolean> hidden, int l) {

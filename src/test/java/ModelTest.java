@@ -7,7 +7,12 @@ final class ModelTest {
 
     // For each kind of run: of 100 calls, how many are acts, undoing, cursors and marks, tape and clip, added up.
     private static final int[][] WEIGHTS = {
-        {42, 50, 70, 80}, {42, 50, 70, 80}, {25, 65, 75, 80}, {42, 50, 70, 80}, {25, 35, 50, 60}, {25, 35, 70, 80}};
+        {42, 50, 70, 80}, {42, 50, 70, 80}, {25, 65, 75, 80}, {42, 50, 70, 80}, {25, 35, 50, 60}, {25, 35, 70, 80},
+        {42, 50, 70, 80}};
+    private static final int KINDS = WEIGHTS.length;
+    // Of long tapes, near the bounds of the text; and of a text that is almost full at first.
+    private static final int LONG = 3;
+    private static final int FULL = 6;
 
     private final Cursorroom x = new Cursorroom();
     private final Model m = new Model();
@@ -17,7 +22,10 @@ final class ModelTest {
 
     private ModelTest(long seed) {
         this.seed = seed * 7919 + 13;
-        this.kind = (int) (seed % 6);
+        this.kind = (int) (seed % KINDS);
+        if (kind == FULL) {
+            fillUp();
+        }
     }
 
     static void run(int runs) {
@@ -33,6 +41,24 @@ final class ModelTest {
             }
         }
         Check.due("runs in which the class answers as the model", runs, good);
+    }
+
+    private void fillUp() {
+        String line = "ab cd e\n\tf";
+        for (int act = 0; act < 15; act++) {
+            x.clearTape();
+            m.clearTape();
+            for (int at = 0; at < (act < 14 ? 200 : 190); at += 10) {
+                for (char letter : line.toCharArray()) {
+                    x.feed(letter);
+                    m.feed(letter);
+                }
+            }
+            x.type();
+            m.type();
+        }
+        x.clearTape();
+        m.clearTape();
     }
 
     private int below(int bound) {
@@ -61,7 +87,7 @@ final class ModelTest {
     private String runCalls(int calls) {
         for (int call = 0; call < calls; call++) {
             String fault = step();
-            if (fault == null && (call % 4 == 0 || kind != 3)) {
+            if (fault == null && (call % 4 == 0 || kind != LONG && kind != FULL)) {
                 fault = unlike();
             }
             if (fault != null) {
@@ -83,7 +109,7 @@ final class ModelTest {
             return chance(2) ? -1L : 0x6100000062000000L + below(300);
         }
         String all = "";
-        int words = kind == 3 ? 8 : 1 + below(3);
+        int words = kind == LONG ? 8 : 1 + below(3);
         for (int i = 0; i < words; i++) {
             all += WORDS[below(WORDS.length)];
         }
@@ -121,7 +147,7 @@ final class ModelTest {
     private String stepTape() {
         int choice = below(6);
         long a = letters();
-        if (choice == 0 && kind != 3) {
+        if (choice == 0 && kind != LONG) {
             return both("clearTape()", x::clearTape, m::clearTape);
         }
         if (choice == 1) {
@@ -136,7 +162,7 @@ final class ModelTest {
             int line = line();
             int lines = chance(30) ? below(3) - 1 : 1 + below(Math.max(1, Math.min(6, m.lines().length - line)));
             int first = chance(30) ? below(2) * 202 - 1 : below(8);
-            int many = chance(30) ? below(2) * 41 : 1 + below(kind == 3 ? 40 : 6);
+            int many = chance(30) ? below(2) * 41 : 1 + below(kind == LONG ? 40 : 6);
             return both("copyBlock(" + line + ", " + lines + ", " + first + ", " + many + ")",
                     () -> x.copyBlock(line, lines, first, many), () -> m.copyBlock(line, lines, first, many));
         }
@@ -151,7 +177,7 @@ final class ModelTest {
             case 0: case 1:
                 return both("type()", x::type, m::type);
             case 2:
-                int many = chance(40) ? below(2) * 202 - 101 : below(kind == 3 ? 9 : 21) - 10;
+                int many = chance(40) ? below(2) * 202 - 101 : below(kind == LONG ? 9 : 21) - 10;
                 return both("erase(" + many + ")", () -> x.erase(many), () -> m.erase(many));
             case 3: case 4:
                 return both("replace" + Arrays.toString(p), () -> x.replace(p[0], p[1]), () -> m.replace(p[0], p[1]));

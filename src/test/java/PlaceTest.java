@@ -109,6 +109,7 @@ final class PlaceTest {
         Check.due("P23 signs at the beginning", "1:0", moved("-- a", 2, -1, 3));
         Check.due("P23 signs at the end", "1:4", moved("a --", 2, 1, 1));
         Check.due("P23 letters of words", "1:7", moved("AZaz09_[", 2, 1, 0));
+        Check.due("P23 letters of words back", "1:1", moved("[AZaz09_", 2, -1, 8));
         Check.due("P23 others", "1:9", moved("@[`{/:^-A", 2, 1, 0));
         Check.due("P23 over line ends", "1:4", moved("a\n\nb c", 2, 2, 0));
         Check.due("P23 words by 0", "2:1 2", moved("abc", 2, 0, 1, 2));

@@ -7,6 +7,7 @@ final class RecordTest {
         promise36();
         promise37();
         groups();
+        ways();
         refused();
         folds();
     }
@@ -110,6 +111,26 @@ final class RecordTest {
         Check.due("P37 moves are no act", 2, () -> y.play(2));
         Check.due("P37 none kept", 1, () -> y.acts(0));
         Check.due("P37 no group stays", 0, () -> Check.bit(y.group(false)));
+    }
+
+    private static void ways() {
+        Cursorroom x = Check.room("ab cd\nef\n\ngh");
+        x.record(true);
+        x.moveCursors(Cursorroom.WORDS, 2);
+        x.moveCursors(Cursorroom.LINES, 1);
+        x.moveCursors(Cursorroom.PARAGRAPHS, 1);
+        x.moveCursors(Cursorroom.ENDS, 1);
+        x.record(false);
+        x.setCursor(0);
+        Check.tape(x, "-");
+        Check.due("P37 all ways", 4, () -> x.play(1));
+        Check.due("P37 where they lead", "12", Check.cursors(x));
+        x.setCursor(1);
+        x.record(true);
+        x.moveCursors(Cursorroom.LINES, 1);
+        x.record(false);
+        x.play(1);
+        Check.due("P37 lines", "9", Check.cursors(x));
     }
 
     private static void refused() {
