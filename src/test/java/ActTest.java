@@ -197,6 +197,10 @@ final class ActTest {
         t.clearTape();
         t.replace(0, 0);
         Check.dueThrow("P10 refused again", IllegalStateException.class, t::paste);
+        Check.tape(t, "a b");
+        t.type();
+        Check.dueThrow("P10 refused ahead of wrap", IllegalStateException.class, t::paste);
+        Check.due("P10 wrap is not refused", 1, () -> t.wrap(0, 1));
     }
 
     private static void promise11() {

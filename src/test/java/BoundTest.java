@@ -36,6 +36,9 @@ final class BoundTest {
         }
         Check.due("bounds: cursor at the end", "3000", Check.cursors(x));
         Check.due("bounds: erase behind", 0, () -> x.erase(100));
+        x.setCursor(0);
+        x.moveCursors(Cursorroom.PARAGRAPHS, 50);
+        Check.due("bounds: no other paragraph", "3000", Check.cursors(x));
         Check.due("bounds: copy up to the end", 10, () -> x.copy(2990, 3000));
         Check.dueThrow("bounds: wrap the last line", IllegalStateException.class, () -> x.wrap(299, 3));
         Check.due("bounds: remove blanks", 1, () -> x.indent(299, 299, -8));

@@ -126,7 +126,48 @@ final class ModelTest {
         return a <= b || chance(20) ? new int[] {a, b} : new int[] {b, a};
     }
 
+    private int wild() {
+        int[] all = {Integer.MIN_VALUE, Integer.MIN_VALUE + 1, Integer.MAX_VALUE - 1, Integer.MAX_VALUE,
+            -1000000, -1, 0, 1, 16, 300, 3000, 3001, 1000000};
+        return all[below(all.length)];
+    }
+
+    /** Calls with numbers far out of range. */
+    private String stepWild() {
+        int a = wild();
+        int b = chance(2) ? wild() : below(3);
+        int c = chance(2) ? wild() : 1 + below(3);
+        int d = chance(2) ? wild() : 1 + below(3);
+        boolean is = chance(2);
+        String row = "(" + a + ", " + b + ", " + c + ", " + d + ")";
+        switch (below(20)) {
+            case 0: return both("copy" + row, () -> x.copy(b, a), () -> m.copy(b, a));
+            case 1: return both("copyBlock" + row, () -> x.copyBlock(b, a, c, d), () -> m.copyBlock(b, a, c, d));
+            case 2: return both("erase" + row, () -> x.erase(a), () -> m.erase(a));
+            case 3: return both("replace" + row, () -> x.replace(b, a), () -> m.replace(b, a));
+            case 4: return both("cut" + row, () -> x.cut(b, a), () -> m.cut(b, a));
+            case 5: return both("indent" + row, () -> x.indent(b, c, a), () -> m.indent(b, c, a));
+            case 6: return both("wrap" + row, () -> x.wrap(b, a), () -> m.wrap(b, a));
+            case 7: return both("joinLines" + row, () -> x.joinLines(b, a), () -> m.joinLines(b, a));
+            case 8: return both("undo" + row, () -> x.undo(a), () -> m.undo(a));
+            case 9: return both("branch" + row, () -> x.branch(a), () -> m.branch(a));
+            case 10: return both("setCursor" + row, () -> x.setCursor(a), () -> m.setCursor(a));
+            case 11: return both("moveCursors" + row, () -> x.moveCursors(b, a), () -> m.moveCursors(b, a));
+            case 12: return both("setMark" + row, () -> x.setMark(b, a, is), () -> m.setMark(b, a, is));
+            case 13: return both("find" + row, () -> x.find(a, is), () -> m.find(a, is));
+            case 14: return both("fold" + row, () -> x.fold(b, a), () -> m.fold(b, a));
+            case 15: return both("setView" + row, () -> x.setView(b, a, c), () -> m.setView(b, a, c));
+            case 16: return both("rowOf" + row, () -> x.rowOf(b, a), () -> m.rowOf(b, a));
+            case 17: return both("placeAt" + row, () -> x.placeAt(b, a), () -> m.placeAt(b, a));
+            case 18: return both("play" + row, () -> x.play(a), () -> m.play(a));
+            default: return both("unfold" + row, () -> x.unfold(a), () -> m.unfold(a));
+        }
+    }
+
     private String step() {
+        if (chance(50)) {
+            return stepWild();
+        }
         int[] parts = WEIGHTS[kind];
         int choice = below(100);
         if (choice < parts[0]) {

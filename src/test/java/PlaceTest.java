@@ -44,6 +44,8 @@ final class PlaceTest {
         Check.dueThrow("P22 place first", IndexOutOfBoundsException.class, () -> x.addCursor(13));
         Check.dueThrow("P22 below", IndexOutOfBoundsException.class, () -> x.addCursor(-1));
         Check.due("P22 one that is there", 8, () -> x.addCursor(3));
+        Check.due("P22 the first one again", 8, () -> x.addCursor(0));
+        Check.due("P22 the last one again", 8, () -> x.addCursor(7));
         x.fold(0, 1);
         x.setCursor(0);
         Check.due("P22 the same", 1, () -> x.addCursor(0));
