@@ -56,12 +56,14 @@ public final class Cursorroom {
 
     public int feed(long letters) throws IllegalArgumentException, IllegalStateException {
         int added = 0;
+        boolean areLetters = true;
         for (int shift = 56; shift >= 0; shift -= 8) {
             int code = (int) (letters >>> shift) & 255;
-            if (code != 0 && !isLetter(code)) {
-                throw new IllegalArgumentException("a byte is no letter");
-            }
             added += code != 0 ? 1 : 0;
+            areLetters = areLetters && (code == 0 || isLetter(code));
+        }
+        if (!areLetters) {
+            throw new IllegalArgumentException("a byte is no letter");
         }
         if (tape.length + added > MOST_TAPE) {
             throw new IllegalStateException("the tape would be too long");
@@ -786,7 +788,7 @@ public final class Cursorroom {
         }
     }
 
-    /** All that undoing brings back: the text, its lines, the cursors and the marks. */
+    /** The text, its lines, the cursors and the marks. */
     private static final class Sheet {
         byte[] letters = new byte[MOST_LETTERS];
         int length = 0;
@@ -814,6 +816,18 @@ public final class Cursorroom {
             length = other.length;
             lines = other.lines;
             cursorCount = other.cursorCount;
+        }
+
+        /** Finds the beginnings of the lines anew. */
+        void findLines() {
+            begins[0] = 0;
+            lines = 1;
+            for (int place = 0; place < length && lines < MOST_LINES; place++) {
+                if (letters[place] == LINE_END) {
+                    begins[lines] = place + 1;
+                    lines++;
+                }
+            }
         }
 
         int lineWith(int place) {
@@ -1033,6 +1047,61 @@ public final class Cursorroom {
                 isSame = hidden[line] == other.hidden[line];
             }
             return isSame;
+        }
+    }
+
+    /**
+     * All that undoing brings back, as it was once. Two of them are there for each act that can be
+     * kept, so they take little room: a number holds eight letters or tells of 64 lines.
+     */
+    private static final class Moment {
+        final long[] letters = new long[(MOST_LETTERS + 7) / 8];
+        int length = 0;
+        final long[] hidden = new long[(MOST_LINES + 63) / 64];
+        final int[] cursors = new int[MOST_CURSORS];
+        int cursorCount = 0;
+        final int[] marks = new int[ALL_MARKS];
+        final boolean[] leansLeft = new boolean[ALL_MARKS];
+
+        void take(Sheet sheet) {
+            length = sheet.length;
+            for (int place = 0; place < length; place++) {
+                long others = place % 8 == 0 ? 0 : letters[place / 8];
+                letters[place / 8] = others | (long) sheet.letters[place] << place % 8 * 8;
+            }
+            for (int line = 0; line < sheet.lines; line++) {
+                long others = line % 64 == 0 ? 0 : hidden[line / 64];
+                hidden[line / 64] = others | (sheet.hidden[line] ? 1L : 0L) << line % 64;
+            }
+            System.arraycopy(sheet.cursors, 0, cursors, 0, MOST_CURSORS);
+            System.arraycopy(sheet.marks, 0, marks, 0, ALL_MARKS);
+            System.arraycopy(sheet.leansLeft, 0, leansLeft, 0, ALL_MARKS);
+            cursorCount = sheet.cursorCount;
+        }
+
+        void bringBack(Sheet sheet) {
+            for (int place = 0; place < length; place++) {
+                sheet.letters[place] = (byte) (letters[place / 8] >>> place % 8 * 8);
+            }
+            sheet.length = length;
+            sheet.findLines();
+            for (int line = 0; line < sheet.lines; line++) {
+                sheet.hidden[line] = (hidden[line / 64] >>> line % 64 & 1) == 1;
+            }
+            System.arraycopy(cursors, 0, sheet.cursors, 0, MOST_CURSORS);
+            System.arraycopy(marks, 0, sheet.marks, 0, ALL_MARKS);
+            System.arraycopy(leansLeft, 0, sheet.leansLeft, 0, ALL_MARKS);
+            sheet.cursorCount = cursorCount;
+        }
+
+        void become(Moment other) {
+            System.arraycopy(other.letters, 0, letters, 0, letters.length);
+            System.arraycopy(other.hidden, 0, hidden, 0, hidden.length);
+            System.arraycopy(other.cursors, 0, cursors, 0, MOST_CURSORS);
+            System.arraycopy(other.marks, 0, marks, 0, ALL_MARKS);
+            System.arraycopy(other.leansLeft, 0, leansLeft, 0, ALL_MARKS);
+            length = other.length;
+            cursorCount = other.cursorCount;
         }
     }
 
@@ -1348,23 +1417,29 @@ public final class Cursorroom {
 
     /** An act that is kept, or the beginning, behind which the first ones were done. */
     private static final class Act {
-        final Act parent;
+        Act parent = null;
         Act chosen = null;
-        Sheet before = null;
-        Sheet behind = null;
-
-        Act(Act parent) {
-            this.parent = parent;
-        }
+        final Moment before = new Moment();
+        final Moment behind = new Moment();
     }
 
-    /** The tree of the acts, in the order in which they were done first. */
+    /**
+     * The tree of the acts, in the order in which they were done first. On the way from the beginning
+     * to the current act each one has the next one as its chosen continuation.
+     */
     private static final class History {
         final Act[] all = new Act[MOST_ACTS];
         int count = 0;
-        Act current = new Act(null);
+        Act current = new Act();
         boolean isGroupOpen = false;
         boolean isGroupKept = false;
+
+        /** Makes all acts that can ever be kept, so that no call makes any. */
+        History() {
+            for (int at = 0; at < MOST_ACTS; at++) {
+                all[at] = new Act();
+            }
+        }
 
         void closeGroup() {
             isGroupOpen = false;
@@ -1377,40 +1452,44 @@ public final class Cursorroom {
 
         /** Keeps an act that is about to be done, unless it is part of one that is kept. */
         void keepAct(Sheet sheet) {
-            if (isGroupKept || count >= MOST_ACTS) {
+            Act act = count < MOST_ACTS ? all[count] : null;
+            if (isGroupKept || act == null) {
                 return;
             }
-            Act act = new Act(current);
-            act.before = new Sheet();
-            act.before.become(sheet);
-            all[count] = act;
-            count++;
+            act.before.take(sheet);
+            act.parent = current;
             current.chosen = act;
             current = act;
+            count++;
             isGroupKept = isGroupOpen;
         }
 
         int goBack(Sheet sheet, int many) {
             int undone = 0;
-            while (undone < many && current.parent != null && current.before != null) {
-                if (current.behind == null) {
-                    current.behind = new Sheet();
-                }
-                current.behind.become(sheet);
-                sheet.become(current.before);
-                current.parent.chosen = current;
-                current = current.parent;
+            current.behind.take(sheet);
+            Act parent = current.parent;
+            while (undone < many && parent != null) {
+                // What was ahead of an act comes back with its undoing: it is what the act ahead of
+                // it, now the current one, leaves if that is undone as well.
+                parent.behind.become(current.before);
+                current = parent;
+                parent = current.parent;
                 undone++;
             }
+            current.behind.bringBack(sheet);
             return undone;
         }
 
         int goOn(Sheet sheet, int many) {
             int redone = 0;
-            while (redone < many && current.chosen != null && current.chosen.behind != null) {
-                current = current.chosen;
-                sheet.become(current.behind);
+            Act next = current.chosen;
+            while (redone < many && next != null) {
+                current = next;
+                next = current.chosen;
                 redone++;
+            }
+            if (redone > 0) {
+                current.behind.bringBack(sheet);
             }
             return redone;
         }

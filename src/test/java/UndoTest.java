@@ -10,6 +10,9 @@ final class UndoTest {
         promise19();
         promise20();
         states();
+        between();
+        rightAhead();
+        fullStates();
         bound();
     }
 
@@ -210,6 +213,120 @@ final class UndoTest {
         Check.due("T4 as when it was done first", "3:2", Check.marks(x));
         x.replace(2, 2);
         Check.due("T4 the lean before", "3:2", Check.marks(x));
+    }
+
+    private static String all(Cursorroom x) {
+        return Check.text(x).replace("\n", "/") + " | " + Check.cursors(x) + " | " + Check.marks(x) + " | "
+                + Check.hidden(x);
+    }
+
+    /** Terms 4: several acts undone by one call come back one by one as they were right ahead of the next one. */
+    private static void between() {
+        Cursorroom x = Check.room("1\n2\n3");
+        Check.tape(x, "a");
+        x.type();
+        x.fold(1, 2);
+        Check.cursors(x, 0, 3);
+        x.setMark(4, 2, true);
+        x.type();
+        x.setCursor(0);
+        x.setMark(4, 6, false);
+        x.setMark(5, 0, false);
+        x.unfold(2);
+        x.fold(0, 1);
+        x.type();
+        x.dropMark(4);
+        String last = all(x);
+        Check.due("T4 many", 3, () -> x.undo(3));
+        Check.due("T4 the first", "1/2/3 | 0 |  | ", all(x));
+        x.redo(1);
+        Check.due("T4 ahead of the second", "a1/2/3 | 0 3 | 4:2 | 2", all(x));
+        x.redo(1);
+        Check.due("T4 ahead of the third", "aa1/a2/3 | 0 | 4:6 5:0 | 1", all(x));
+        x.redo(1);
+        Check.due("T4 the last", last, all(x));
+        x.undo(1);
+        x.setCursor(7);
+        x.undo(1);
+        x.dropMark(4);
+        x.undo(1);
+        x.redo(1);
+        Check.due("T4 the first when it was undone", "a1/2/3 | 0 3 |  | 2", all(x));
+        x.redo(1);
+        Check.due("T4 the second when it was undone", "aa1/a2/3 | 7 | 4:6 5:0 | 1", all(x));
+        x.redo(1);
+        Check.due("T4 the last again", last, all(x));
+        x.undo(2);
+        Check.due("T4 the second as it was ahead first", "a1/2/3 | 0 3 | 4:2 | 2", all(x));
+    }
+
+    /** Terms 4: a redo that reaches nothing, or an undo, leaves all as it is; errors() as well. */
+    private static void rightAhead() {
+        Cursorroom x = Check.room("1\n2\n3");
+        Check.tape(x, "a");
+        x.type();
+        x.undo(2);
+        Check.due("T4 nothing left", 0, () -> x.undo(1));
+        x.setMark(2, 0, false);
+        Check.due("T4 nothing undone", 0, () -> x.undo(1));
+        Check.due("T4 so it stays", " | 0 | 2:0 | ", all(x));
+        x.redo(2);
+        Check.due("T4 as it was", "a1/2/3 | 1 |  | ", all(x));
+        x.fold(1, 2);
+        Check.cursors(x, 4, 2);
+        x.setMark(0, 3, true);
+        Check.due("T4 nothing to do again", 0, () -> x.redo(1));
+        Check.due("P49 none", 0, x::errors);
+        Check.due("T4 all stays", "a1/2/3 | 2 4 | 0:3 | 2", all(x));
+        x.undo(1);
+        x.setCursor(1);
+        Check.due("P49 none in between", 0, x::errors);
+        Check.due("P49 all stays in between", "1/2/3 | 1 |  | ", all(x));
+        x.redo(1);
+        Check.due("P49 what is kept stays", "a1/2/3 | 2 4 | 0:3 | 2", all(x));
+    }
+
+    /** Terms 4 at the bounds: all letters, 300 lines, 8 cursors, 16 marks. */
+    private static void fullStates() {
+        Cursorroom x = new Cursorroom();
+        Check.tape(x, "\n\n\n\n\n\n\n\n\n\n\n\n\n");
+        for (int time = 0; time < 23; time++) {
+            x.type();
+        }
+        StringBuilder codes = new StringBuilder("\t");
+        for (char code = 32; code <= 126; code++) {
+            codes.append(code);
+        }
+        x.setCursor(7);
+        Check.tape(x, codes.append(codes).toString());
+        for (int time = 0; time < 14; time++) {
+            x.type();
+        }
+        Check.tape(x, "~~~~~~~~~~~~~");
+        x.type();
+        for (int line : new int[] {8, 60, 62, 64, 126, 128, 191, 193, 254, 256, 296}) {
+            x.fold(line, line + 1);
+        }
+        x.fold(298, 299);
+        Check.cursors(x, 0, 1, 1000, 2000, 2001, 2750, 2800, 2994);
+        for (int mark = 0; mark < 16; mark++) {
+            x.setMark(mark, 3000 - mark * 200, mark % 3 == 0);
+        }
+        Check.due("T4 letters", 3000, () -> x.count(0));
+        Check.due("T4 lines", 300, () -> x.count(1));
+        String full = all(x);
+        x.undo(150);
+        Check.due("T4 nothing", " | 0 |  | ", all(x));
+        x.redo(150);
+        Check.due("T4 all of it", full, all(x));
+        Check.tape(x, "x");
+        x.replace(100, 101);
+        String then = all(x);
+        x.undo(1);
+        Check.due("T4 all of it ahead", full, all(x));
+        x.redo(1);
+        Check.due("T4 all of it behind", then, all(x));
+        Check.due("P49 full", 0, x::errors);
     }
 
     private static void bound() {
