@@ -1067,11 +1067,11 @@ public final class Cursorroom {
             length = sheet.length;
             for (int place = 0; place < length; place++) {
                 long others = place % 8 == 0 ? 0 : letters[place / 8];
-                letters[place / 8] = others | (long) sheet.letters[place] << place % 8 * 8;
+                letters[place / 8] = others | (long) sheet.letters[place] << (place % 8 * 8);
             }
             for (int line = 0; line < sheet.lines; line++) {
                 long others = line % 64 == 0 ? 0 : hidden[line / 64];
-                hidden[line / 64] = others | (sheet.hidden[line] ? 1L : 0L) << line % 64;
+                hidden[line / 64] = others | (sheet.hidden[line] ? 1L : 0L) << (line % 64);
             }
             System.arraycopy(sheet.cursors, 0, cursors, 0, MOST_CURSORS);
             System.arraycopy(sheet.marks, 0, marks, 0, ALL_MARKS);
@@ -1081,12 +1081,12 @@ public final class Cursorroom {
 
         void bringBack(Sheet sheet) {
             for (int place = 0; place < length; place++) {
-                sheet.letters[place] = (byte) (letters[place / 8] >>> place % 8 * 8);
+                sheet.letters[place] = (byte) (letters[place / 8] >>> (place % 8 * 8));
             }
             sheet.length = length;
             sheet.findLines();
             for (int line = 0; line < sheet.lines; line++) {
-                sheet.hidden[line] = (hidden[line / 64] >>> line % 64 & 1) == 1;
+                sheet.hidden[line] = (hidden[line / 64] >>> (line % 64) & 1) == 1;
             }
             System.arraycopy(cursors, 0, sheet.cursors, 0, MOST_CURSORS);
             System.arraycopy(marks, 0, sheet.marks, 0, ALL_MARKS);
