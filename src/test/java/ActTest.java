@@ -25,7 +25,7 @@ final class ActTest {
     }
 
     private static void promise06() {
-        Cursorroom x = Check.room("abcd");
+        Room x = Check.room("abcd");
         Check.cursors(x, 0, 2, 4);
         Check.tape(x, "-+");
         Check.due("P6 length", 10, x::type);
@@ -40,7 +40,7 @@ final class ActTest {
     }
 
     private static void bounds() {
-        Cursorroom x = Check.room("a".repeat(2999));
+        Room x = Check.room("a".repeat(2999));
         Check.tape(x, "b");
         Check.due("P6 3000 letters", 3000, x::type);
         Check.dueThrow("P6 3001 letters", IllegalStateException.class, x::type);
@@ -50,7 +50,7 @@ final class ActTest {
         Check.due("P6 nothing is not refused", 3000, x::type);
         Check.tape(x, "\n");
         Check.due("P8 one for one at the bound", 3000, () -> x.replace(5, 6));
-        Cursorroom y = Check.room(lines(299));
+        Room y = Check.room(lines(299));
         Check.tape(y, "\n");
         Check.due("P6 300 lines", 299, y::type);
         Check.due("P6 count of lines", 300, () -> y.count(1));
@@ -64,7 +64,7 @@ final class ActTest {
     }
 
     private static void promise07() {
-        Cursorroom x = Check.room("abcdefghij");
+        Room x = Check.room("abcdefghij");
         Check.cursors(x, 2, 4, 9);
         Check.due("P7 behind, together", 7, () -> x.erase(4));
         Check.due("P7 text", "abi", Check.text(x));
@@ -79,7 +79,7 @@ final class ActTest {
         Check.due("P7 text back", "abi", Check.text(x));
         Check.dueThrow("P7 above", IllegalArgumentException.class, () -> x.erase(101));
         Check.dueThrow("P7 below", IllegalArgumentException.class, () -> x.erase(-101));
-        Cursorroom y = Check.room("abcdefghij");
+        Room y = Check.room("abcdefghij");
         Check.cursors(y, 1, 3, 8);
         Check.due("P7 ahead, together", 6, () -> y.erase(-3));
         Check.due("P7 text then", "deij", Check.text(y));
@@ -87,7 +87,7 @@ final class ActTest {
     }
 
     private static void promise08() {
-        Cursorroom x = Check.room("abcdef");
+        Room x = Check.room("abcdef");
         Check.tape(x, "XY\n");
         Check.due("P8 length", 6, () -> x.replace(1, 4));
         Check.due("P8 text", "aXY\nef", Check.text(x));
@@ -107,7 +107,7 @@ final class ActTest {
     }
 
     private static void promise09() {
-        Cursorroom x = Check.room("hello world");
+        Room x = Check.room("hello world");
         x.setCursor(8);
         Check.due("P9 letters", 6, () -> x.cut(5, 11));
         Check.due("P9 text", "hello", Check.text(x));
@@ -122,7 +122,7 @@ final class ActTest {
         Check.due("P9 empty part", 0, () -> x.cut(4, 4));
         Check.due("P9 empty clip", 0, () -> x.count(6));
         Check.due("P9 no act of nothing", 3, () -> x.acts(0));
-        Cursorroom y = UndoTest.full();
+        Room y = UndoTest.full();
         y.copy(0, 1);
         Check.dueThrow("P9 refused", IllegalStateException.class, () -> y.cut(0, 2));
         Check.due("P9 refused: the clip stays", 1, () -> y.count(6));
@@ -131,13 +131,13 @@ final class ActTest {
     }
 
     private static void promise10() {
-        Cursorroom x = Check.room("ab\ncd");
+        Room x = Check.room("ab\ncd");
         x.copy(1, 3);
         Check.cursors(x, 0, 5);
         Check.due("P10 length", 9, x::paste);
         Check.due("P10 a row at each cursor", "b\nab\ncdb\n", Check.text(x));
         Check.due("P10 cursors", "2 9", Check.cursors(x));
-        Cursorroom y = Check.room("a".repeat(2000));
+        Room y = Check.room("a".repeat(2000));
         y.copy(0, 1001);
         Check.dueThrow("P10 refused", IllegalStateException.class, y::paste);
         y.copy(0, 1000);
@@ -145,7 +145,7 @@ final class ActTest {
     }
 
     private static void promise10Blocks() {
-        Cursorroom x = Check.room("abcd\nefgh\nij\n\nk");
+        Room x = Check.room("abcd\nefgh\nij\n\nk");
         x.copyBlock(0, 3, 1, 2);
         Check.cursors(x, 7, 8);
         x.setMark(0, 13, false);
@@ -154,12 +154,12 @@ final class ActTest {
         Check.due("P10 block: text", "abcd\nefbcgh\nijfg\n  j \nk", Check.text(x));
         Check.due("P10 block: cursors", "9 10", Check.cursors(x));
         Check.due("P10 block: marks", "0:21 1:17", Check.marks(x));
-        Cursorroom y = Check.room("abc");
+        Room y = Check.room("abc");
         y.copyBlock(0, 1, 0, 3);
         y.setCursor(3);
         y.paste();
         Check.due("P10 one row at the end", "abcabc", Check.text(y));
-        Cursorroom z = Check.room("ab\ncd\ne");
+        Room z = Check.room("ab\ncd\ne");
         z.copyBlock(0, 3, 0, 2);
         z.setCursor(7);
         z.setMark(0, 7, true);
@@ -167,7 +167,7 @@ final class ActTest {
         Check.due("P10 their text", "ab\ncd\neab\n cd\n e ", Check.text(z));
         Check.due("P10 one part at the end: cursor", "17", Check.cursors(z));
         Check.due("P10 one part at the end: mark", "0:7", Check.marks(z));
-        Cursorroom v = Check.room("ab\ncdef");
+        Room v = Check.room("ab\ncdef");
         v.copyBlock(0, 2, 0, 1);
         v.setCursor(4);
         v.setMark(0, 7, false);
@@ -175,13 +175,13 @@ final class ActTest {
         Check.due("P10 text", "ab\ncadef\n c", Check.text(v));
         Check.due("P10 cursor", "5", Check.cursors(v));
         Check.due("P10 mark at the end", "0:11", Check.marks(v));
-        Cursorroom w = Check.room("\n".repeat(297) + "a\n");
+        Room w = Check.room("\n".repeat(297) + "a\n");
         w.copyBlock(297, 2, 0, 1);
         w.setCursor(299);
         Check.due("P10 300 lines", 302, w::paste);
         w.setCursor(302);
         Check.dueThrow("P10 301 lines", IllegalStateException.class, w::paste);
-        Cursorroom u = Check.room("a".repeat(2960) + "\n");
+        Room u = Check.room("a".repeat(2960) + "\n");
         u.copyBlock(0, 2, 0, 40);
         u.setCursor(1);
         Check.dueThrow("P10 block above 3000 letters", IllegalStateException.class, u::paste);
@@ -189,7 +189,7 @@ final class ActTest {
         Check.due("P10 what comes behind is not refused", 1, () -> u.erase(1));
         Check.tape(u, "b");
         Check.due("P10 nor this", 2961, u::type);
-        Cursorroom t = Check.room("\n".repeat(99));
+        Room t = Check.room("\n".repeat(99));
         t.copyBlock(0, 100, 0, 40);
         t.replace(0, 99);
         Check.dueThrow("P10 4099 letters into an empty text", IllegalStateException.class, t::paste);
@@ -204,7 +204,7 @@ final class ActTest {
     }
 
     private static void promise11() {
-        Cursorroom x = Check.room("a\n\n \n\t\tb\nc");
+        Room x = Check.room("a\n\n \n\t\tb\nc");
         Check.due("P11 put", 3, () -> x.indent(0, 3, 2));
         Check.due("P11 text", "  a\n\n   \n  \t\tb\nc", Check.text(x));
         Check.due("P11 remove", 3, () -> x.indent(0, 4, -3));
@@ -222,13 +222,13 @@ final class ActTest {
         Check.dueThrow("P11 by 9", IllegalArgumentException.class, () -> x.indent(0, 1, 9));
         Check.dueThrow("P11 by -9", IllegalArgumentException.class, () -> x.indent(0, 1, -9));
         Check.dueThrow("P11 by least", IllegalArgumentException.class, () -> x.indent(0, 1, Integer.MIN_VALUE));
-        Cursorroom y = Check.room("a".repeat(2995));
+        Room y = Check.room("a".repeat(2995));
         Check.dueThrow("P11 refused", IllegalStateException.class, () -> y.indent(0, 0, 6));
         Check.due("P11 at the bound", 1, () -> y.indent(0, 0, 5));
     }
 
     private static String wrapped(String text, int line, int width) {
-        Cursorroom x = Check.room(text);
+        Room x = Check.room(text);
         int broken = x.wrap(line, width);
         return broken + ":" + Check.text(x).replace('\n', '/');
     }
@@ -246,7 +246,7 @@ final class ActTest {
         Check.due("P12 tabs are no blanks", "0:aa\tbb\tcc", wrapped("aa\tbb\tcc", 0, 3));
         Check.due("P12 one line alone", "1:a b c/dd/ee/f g h", wrapped("a b c\ndd ee\nf g h", 1, 2));
         Check.due("P12 a blank at the end", "1:aaa/", wrapped("aaa ", 0, 3));
-        Cursorroom x = Check.room("aa bb");
+        Room x = Check.room("aa bb");
         x.setCursor(3);
         x.setMark(0, 3, true);
         x.wrap(0, 3);
@@ -258,13 +258,13 @@ final class ActTest {
         Check.dueThrow("P12 line below", IndexOutOfBoundsException.class, () -> x.wrap(-1, 5));
         Check.dueThrow("P12 width 0", IllegalArgumentException.class, () -> x.wrap(0, 0));
         Check.dueThrow("P12 width 101", IllegalArgumentException.class, () -> x.wrap(0, 101));
-        Cursorroom y = Check.room(lines(299) + "a b c");
+        Room y = Check.room(lines(299) + "a b c");
         Check.dueThrow("P12 301 lines", IllegalStateException.class, () -> y.wrap(298, 1));
         Check.due("P12 300 lines", 1, () -> y.wrap(298, 3));
     }
 
     private static void promise13() {
-        Cursorroom x = Check.room("a\n \t b\n\n  c \nd");
+        Room x = Check.room("a\n \t b\n\n  c \nd");
         Check.due("P13 lines left", 2, () -> x.joinLines(0, 3));
         Check.due("P13 text", "a b  c \nd", Check.text(x));
         Check.due("P13 one line", 2, () -> x.joinLines(1, 1));
@@ -275,19 +275,19 @@ final class ActTest {
         Check.due("P13 cursor", "8", Check.cursors(x));
         Check.dueThrow("P13 line", IndexOutOfBoundsException.class, () -> x.joinLines(1, 0));
         Check.dueThrow("P13 line below", IndexOutOfBoundsException.class, () -> x.joinLines(0, -1));
-        Cursorroom y = Check.room("a\n  \n \nb\n");
+        Room y = Check.room("a\n  \n \nb\n");
         Check.dueThrow("P13 turned", IllegalArgumentException.class, () -> y.joinLines(2, 1));
         Check.due("P13 blank lines", 2, () -> y.joinLines(0, 3));
         Check.due("P13 a blank for each line end", "a   b\n", Check.text(y));
         Check.due("P13 last line end", 1, () -> y.joinLines(0, 1));
         Check.due("P13 its blank", "a   b ", Check.text(y));
-        Cursorroom z = UndoTest.full();
+        Room z = UndoTest.full();
         Check.due("P13 one line is not refused", 2, () -> z.joinLines(1, 1));
         Check.dueThrow("P13 refused", IllegalStateException.class, () -> z.joinLines(0, 1));
     }
 
     private static void promise14() {
-        Cursorroom x = Check.room("ab cab ab");
+        Room x = Check.room("ab cab ab");
         Check.dueThrow("P14 no pattern", IllegalStateException.class, x::replaceNext);
         Check.tape(x, "ab");
         x.setPattern(false);
@@ -305,7 +305,7 @@ final class ActTest {
         x.undo(2);
         x.setCursor(8);
         Check.due("P14 the find at the cursor", 8, x::replaceNext);
-        Cursorroom y = Check.room("ab".repeat(1499));
+        Room y = Check.room("ab".repeat(1499));
         Check.tape(y, "ab");
         y.setPattern(false);
         Check.tape(y, "abcd");
@@ -320,7 +320,7 @@ final class ActTest {
     }
 
     private static void promise15() {
-        Cursorroom x = Check.room("aaaaa b aa");
+        Room x = Check.room("aaaaa b aa");
         Check.dueThrow("P15 no pattern", IllegalStateException.class, x::replaceAll);
         Check.tape(x, "aa");
         x.setPattern(false);
@@ -337,7 +337,7 @@ final class ActTest {
         Check.tape(x, "c");
         Check.due("P15 whole words", 1, x::replaceAll);
         Check.due("P15 text", "aaaaa b c", Check.text(x));
-        Cursorroom y = Check.room("ab".repeat(1000));
+        Room y = Check.room("ab".repeat(1000));
         Check.tape(y, "b");
         y.setPattern(false);
         Check.tape(y, "bbb");
@@ -351,7 +351,7 @@ final class ActTest {
 
     /** Terms 2: how places move. */
     private static void places() {
-        Cursorroom x = Check.room("abcdefgh");
+        Room x = Check.room("abcdefgh");
         for (int mark = 0; mark < 8; mark++) {
             x.setMark(mark, mark, false);
             x.setMark(mark + 8, mark, true);
@@ -366,7 +366,7 @@ final class ActTest {
         Check.cursors(x, 1, 2, 3, 5);
         x.replace(1, 5);
         Check.due("T2 cursors", "1 4", Check.cursors(x));
-        Cursorroom y = Check.room("aabb");
+        Room y = Check.room("aabb");
         y.setMark(0, 2, true);
         y.setMark(1, 2, false);
         Check.tape(y, "aa");
@@ -374,7 +374,7 @@ final class ActTest {
         Check.tape(y, "c");
         y.replaceAll();
         Check.due("T2 at the end of a part", "0:0 1:1", Check.marks(y));
-        Cursorroom z = Check.room("aaaa");
+        Room z = Check.room("aaaa");
         z.setMark(0, 2, true);
         z.setMark(1, 2, false);
         z.setMark(2, 4, true);
@@ -385,8 +385,8 @@ final class ActTest {
         Check.due("T2 between two parts", "0:0 1:3 2:0", Check.marks(z));
     }
 
-    private static Cursorroom folded() {
-        Cursorroom x = Check.room("a\nb\nc\nd\ne\nf\ng\nh");
+    private static Room folded() {
+        Room x = Check.room("a\nb\nc\nd\ne\nf\ng\nh");
         x.fold(1, 3);
         x.fold(4, 6);
         return x;
@@ -394,7 +394,7 @@ final class ActTest {
 
     /** Terms 3: which folds an act opens, and what becomes of the others. */
     private static void folds() {
-        Cursorroom x = folded();
+        Room x = folded();
         Check.due("T3 two folds", "2 3 5 6", Check.hidden(x));
         Check.tape(x, "\n\n");
         x.replace(0, 0);

@@ -1,9 +1,11 @@
+import java.nio.file.Path;
+
 /** Runs every test of the project; the last line counts the answers that were due and those that were not. */
 public final class AllTests {
     private AllTests() {
     }
 
-    /** Takes the folder of the compiled classes. */
+    /** Takes the folder of the compiled classes, and the document. */
     public static void main(String[] args) throws java.io.IOException {
         TapeTest.run();
         ActTest.run();
@@ -15,6 +17,7 @@ public final class AllTests {
         BoundTest.run();
         TextTest.run();
         KeptTest.run();
+        EdgeTests.run(Path.of(args.length > 1 ? args[1] : "../shared/DOC.md"));
         FaceTest.run(args.length > 0 ? args[0] : ".");
         RoomTest.run();
         ModelTest.run(140);

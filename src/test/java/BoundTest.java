@@ -11,12 +11,12 @@ final class BoundTest {
     }
 
     /** 3000 letters in 300 lines; the last line is ten blanks. */
-    private static Cursorroom full() {
+    private static Room full() {
         return Check.room("ab\tcd ef \n".repeat(299) + " ".repeat(10));
     }
 
     private static void fullText() {
-        Cursorroom x = full();
+        Room x = full();
         Check.due("bounds: letters", 3000, () -> x.count(0));
         Check.due("bounds: lines", 300, () -> x.count(1));
         Check.due("bounds: words", 897, () -> x.count(7));
@@ -67,7 +67,7 @@ final class BoundTest {
     }
 
     private static void wrapAtTheEnd() {
-        Cursorroom x = Check.room("a".repeat(3000));
+        Room x = Check.room("a".repeat(3000));
         Check.due("bounds: no blank", 0, () -> x.wrap(0, 100));
         Check.due("bounds: no line end", 1, () -> x.joinLines(0, 0));
         x.setCursor(0);
@@ -87,7 +87,7 @@ final class BoundTest {
     }
 
     private static void eightCursors() {
-        Cursorroom x = Check.room("abcdefgh\nijklmnop\n");
+        Room x = Check.room("abcdefgh\nijklmnop\n");
         Check.cursors(x, 0, 2, 4, 6, 8, 10, 12, 18);
         Check.tape(x, "-");
         Check.due("bounds: type at eight", 26, x::type);
@@ -102,7 +102,7 @@ final class BoundTest {
     }
 
     private static void emptyText() {
-        Cursorroom x = new Cursorroom();
+        Room x = new Room();
         Check.due("bounds: wrap nothing", 0, () -> x.wrap(0, 1));
         Check.due("bounds: join nothing", 1, () -> x.joinLines(0, 0));
         Check.due("bounds: indent nothing", 0, () -> x.indent(0, 0, 8));
@@ -125,24 +125,24 @@ final class BoundTest {
 
     /** Letters, lines and cursors that are no more must not count again. */
     private static void staleLetters() {
-        Cursorroom x = Check.room("a b\n   \n  ");
+        Room x = Check.room("a b\n   \n  ");
         x.clearTape();
         x.replace(1, 10);
         x.undo(1);
         x.replace(4, 10);
         Check.due("gone: no blanks", 1, () -> x.joinLines(0, 1));
         Check.due("gone: text", "a b ", Check.text(x));
-        Cursorroom y = Check.room("ab\n  cd");
+        Room y = Check.room("ab\n  cd");
         y.replace(3, 7);
         y.replace(3, 3);
         Check.due("gone: blanks behind the end", 0, () -> y.indent(1, 1, -8));
-        Cursorroom z = Check.room("word word word");
+        Room z = Check.room("word word word");
         z.replace(4, 14);
         z.setCursor(0);
         z.moveCursors(Cursorroom.WORDS, 50);
         Check.due("gone: words", "4", Check.cursors(z));
         Check.due("gone: count of words", 1, () -> z.count(7));
-        Cursorroom v = Check.room("abcdef");
+        Room v = Check.room("abcdef");
         Check.cursors(v, 0, 3, 5);
         v.setCursor(1);
         Check.due("gone: cursors", 1, () -> v.erase(1));

@@ -40,7 +40,7 @@ final class Check {
 
     // ---- what many tests do with a room
 
-    static void feed(Cursorroom x, String letters) {
+    static void feed(Room x, String letters) {
         for (int at = 0; at < letters.length(); at += 8) {
             long number = 0;
             for (int i = at; i < Math.min(letters.length(), at + 8); i++) {
@@ -51,16 +51,21 @@ final class Check {
     }
 
     /** Makes the tape these letters. */
-    static void tape(Cursorroom x, String letters) {
+    static void tape(Room x, String letters) {
         x.clearTape();
         feed(x, letters);
     }
 
     /** A room with this text, its cursor at the beginning, and the empty tape; one act for every 200 letters. */
-    static Cursorroom room(String text) {
-        Cursorroom x = new Cursorroom();
+    static Room room(String text) {
+        Room x = new Room();
+        String last = "";
         for (int at = 0; at < text.length(); at += 200) {
-            tape(x, text.substring(at, Math.min(text.length(), at + 200)));
+            String next = text.substring(at, Math.min(text.length(), at + 200));
+            if (!next.equals(last)) {
+                tape(x, next);
+            }
+            last = next;
             x.type();
         }
         x.clearTape();
@@ -68,7 +73,7 @@ final class Check {
         return x;
     }
 
-    static String text(Cursorroom x) {
+    static String text(Room x) {
         StringBuilder all = new StringBuilder();
         for (int place = 0; place < x.count(0); place++) {
             all.append((char) x.letterAt(place));
@@ -76,7 +81,7 @@ final class Check {
         return all.toString();
     }
 
-    static String cursors(Cursorroom x) {
+    static String cursors(Room x) {
         StringBuilder all = new StringBuilder();
         for (int cursor = 0; cursor < x.count(2); cursor++) {
             all.append(cursor == 0 ? "" : " ").append(x.cursorAt(cursor));
@@ -84,7 +89,7 @@ final class Check {
         return all.toString();
     }
 
-    static void cursors(Cursorroom x, int... places) {
+    static void cursors(Room x, int... places) {
         x.setCursor(places[0]);
         for (int place : places) {
             x.addCursor(place);
@@ -92,18 +97,19 @@ final class Check {
     }
 
     /** The marks that are set, as number:place. */
-    static String marks(Cursorroom x) {
+    static String marks(Room x) {
         StringBuilder all = new StringBuilder();
         for (int mark = 0; mark < 16; mark++) {
-            if (x.markAt(mark) != Cursorroom.NONE) {
-                all.append(all.length() == 0 ? "" : " ").append(mark).append(':').append(x.markAt(mark));
+            int place = x.markAt(mark);
+            if (place != Cursorroom.NONE) {
+                all.append(all.length() == 0 ? "" : " ").append(mark).append(':').append(place);
             }
         }
         return all.toString();
     }
 
     /** The lines that are hidden. */
-    static String hidden(Cursorroom x) {
+    static String hidden(Room x) {
         StringBuilder all = new StringBuilder();
         for (int line = 0; line < x.count(1); line++) {
             if (x.isHidden(line)) {

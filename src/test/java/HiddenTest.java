@@ -11,12 +11,12 @@ final class HiddenTest {
         promise35();
     }
 
-    private static Cursorroom eight() {
+    private static Room eight() {
         return Check.room("a\nb\nc\nd\ne\nf\ng\nh");
     }
 
     private static void promise31() {
-        Cursorroom x = eight();
+        Room x = eight();
         Check.due("P31 hidden in all", 2, () -> x.fold(0, 2));
         Check.due("P31 lines", "1 2", Check.hidden(x));
         Check.due("P31 more", 4, () -> x.fold(4, 6));
@@ -29,7 +29,7 @@ final class HiddenTest {
         Check.dueThrow("P31 line before order", IndexOutOfBoundsException.class, () -> x.fold(8, 2));
         Check.dueThrow("P31 one line", IllegalArgumentException.class, () -> x.fold(3, 3));
         Check.dueThrow("P31 turned", IllegalArgumentException.class, () -> x.fold(3, 2));
-        Cursorroom y = eight();
+        Room y = eight();
         Check.cursors(y, 4, 11);
         Check.dueThrow("P31 a cursor in the last one", IllegalStateException.class, () -> y.fold(2, 5));
         Check.dueThrow("P31 a cursor in the first one", IllegalStateException.class, () -> y.fold(1, 4));
@@ -39,7 +39,7 @@ final class HiddenTest {
     }
 
     private static void promise32() {
-        Cursorroom x = eight();
+        Room x = eight();
         x.fold(0, 2);
         x.fold(2, 3);
         x.fold(4, 5);
@@ -53,7 +53,7 @@ final class HiddenTest {
     }
 
     private static void promise33() {
-        Cursorroom x = eight();
+        Room x = eight();
         x.fold(3, 4);
         Check.due("P33 hidden", 1, () -> Check.bit(x.isHidden(4)));
         Check.due("P33 shown", 0, () -> Check.bit(x.isHidden(3)));
@@ -62,7 +62,7 @@ final class HiddenTest {
     }
 
     private static void promise34() {
-        Cursorroom x = eight();
+        Room x = eight();
         Check.due("P34 top before", 0, () -> x.setView(0, 5, 40));
         Check.due("P34 top then", 5, () -> x.setView(0, Integer.MAX_VALUE, 1));
         Check.due("P34 the other view", 0, () -> x.setView(1, 3, 2));
@@ -76,7 +76,7 @@ final class HiddenTest {
     }
 
     private static void promise35() {
-        Cursorroom x = eight();
+        Room x = eight();
         Check.due("P35 first height", 7, () -> x.rowOf(1, 7));
         Check.due("P35 none", -1, () -> x.rowOf(0, 8));
         Check.due("P35 last row", -1, () -> x.rowOf(0, 9));

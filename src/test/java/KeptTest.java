@@ -10,7 +10,7 @@ final class KeptTest {
         promise49();
     }
 
-    private static void become(Cursorroom x, String text) {
+    private static void become(Room x, String text) {
         x.clearTape();
         x.replace(0, x.count(0));
         x.setCursor(0);
@@ -19,34 +19,34 @@ final class KeptTest {
     }
 
     private static int differences(String kept, String text) {
-        Cursorroom x = Check.room(kept);
+        Room x = Check.room(kept);
         x.keep();
         become(x, text);
         return x.differences();
     }
 
     private static float share(String kept, String text) {
-        Cursorroom x = Check.room(kept);
+        Room x = Check.room(kept);
         x.keep();
         become(x, text);
         return x.sameShare();
     }
 
     /** The beginnings of lines inside a room, to break them. */
-    private static int[] begins(Cursorroom x) {
+    private static int[] begins(Room x) {
         try {
             java.lang.reflect.Field sheet = Cursorroom.class.getDeclaredField("sheet");
             sheet.setAccessible(true);
             java.lang.reflect.Field begins = sheet.getType().getDeclaredField("begins");
             begins.setAccessible(true);
-            return (int[]) begins.get(sheet.get(x));
+            return (int[]) begins.get(sheet.get(x.inside));
         } catch (ReflectiveOperationException e) {
             throw new IllegalStateException(e);
         }
     }
 
     private static void promise46() {
-        Cursorroom x = Check.room("a\nb\n");
+        Room x = Check.room("a\nb\n");
         Check.due("P46 lines", 3, x::keep);
         Check.due("P46 the same", 0, x::differences);
         become(x, "a");
@@ -72,7 +72,7 @@ final class KeptTest {
         Check.due("P47 sums that are the same", 2, () -> differences("Aa", "BB"));
         Check.due("P47 a part of a line", 2, () -> differences("abc", "ab"));
         Check.due("P47 blanks count", 2, () -> differences("a ", "a"));
-        Cursorroom x = Check.room("a\nb\nc\nd");
+        Room x = Check.room("a\nb\nc\nd");
         x.keep();
         x.differences();
         become(x, "x\ny\nz\nv");
@@ -91,13 +91,13 @@ final class KeptTest {
     }
 
     private static void promise49() {
-        Cursorroom broken = Check.room("a\nb");
+        Room broken = Check.room("a\nb");
         begins(broken)[1] = 3;
         Check.due("P49 a beginning that is not so", 1, broken::errors);
         begins(broken)[1] = 2;
         begins(broken)[0] = 1;
         Check.due("P49 another one", 1, broken::errors);
-        Cursorroom x = new Cursorroom();
+        Room x = new Room();
         Check.due("P49 new", 0, x::errors);
         Check.tape(x, "a\nb\n");
         x.type();

@@ -20,7 +20,7 @@ final class PlaceTest {
     }
 
     private static void promise21() {
-        Cursorroom x = Check.room("abc\nd\ne");
+        Room x = Check.room("abc\nd\ne");
         Check.cursors(x, 0, 2, 3);
         Check.due("P21 how many there were", 3, () -> x.setCursor(2));
         Check.due("P21 one", "2", Check.cursors(x));
@@ -34,7 +34,7 @@ final class PlaceTest {
     }
 
     private static void promise22() {
-        Cursorroom x = Check.room("abcdefgh\ni\nj");
+        Room x = Check.room("abcdefgh\ni\nj");
         for (int place = 7; place > 0; place--) {
             int p = place;
             Check.due("P22 added", 9 - place, () -> x.addCursor(p));
@@ -55,7 +55,7 @@ final class PlaceTest {
     }
 
     private static String moved(String text, int way, int by, int... cursors) {
-        Cursorroom x = Check.room(text);
+        Room x = Check.room(text);
         Check.cursors(x, cursors);
         int many = x.moveCursors(way, by);
         return many + ":" + Check.cursors(x);
@@ -80,7 +80,7 @@ final class PlaceTest {
         Check.due("P23 column 4", "1:8", moved("a\tb\nabcdefgh", 1, 1, 2));
         Check.due("P23 they come together", "1:6", moved("abc\nd\n", 1, 50, 3, 4));
         Check.due("P23 turned round", "2:6 8", moved("abcde\nfgh", 1, 1, 2, 6));
-        Cursorroom x = Check.room("a\nb\nc\nd\ne");
+        Room x = Check.room("a\nb\nc\nd\ne");
         x.fold(0, 2);
         Check.due("P23 over hidden lines", 1, () -> x.moveCursors(1, 1));
         Check.due("P23 behind the fold", "6", Check.cursors(x));
@@ -145,7 +145,7 @@ final class PlaceTest {
     }
 
     private static void promise23() {
-        Cursorroom x = Check.room("abc");
+        Room x = Check.room("abc");
         Check.dueThrow("P23 way below", IllegalArgumentException.class, () -> x.moveCursors(-1, 1));
         Check.dueThrow("P23 way above", IllegalArgumentException.class, () -> x.moveCursors(5, 0));
         Check.dueThrow("P23 by below", IllegalArgumentException.class, () -> x.moveCursors(0, -51));
@@ -159,7 +159,7 @@ final class PlaceTest {
     }
 
     private static void promise24() {
-        Cursorroom x = Check.room("abcd");
+        Room x = Check.room("abcd");
         Check.cursors(x, 4, 1);
         Check.due("P24 first", 1, () -> x.cursorAt(0));
         Check.due("P24 second", 4, () -> x.cursorAt(1));
@@ -169,7 +169,7 @@ final class PlaceTest {
     }
 
     private static void promise25() {
-        Cursorroom x = Check.room("abcd");
+        Room x = Check.room("abcd");
         Check.due("P25 not set", -1, () -> x.setMark(15, 4, false));
         Check.due("P25 set again", 4, () -> x.setMark(15, 2, true));
         Check.due("P25 place", 2, () -> x.markAt(15));
@@ -186,7 +186,7 @@ final class PlaceTest {
     }
 
     private static void promise26() {
-        Cursorroom x = Check.room("abcd");
+        Room x = Check.room("abcd");
         Check.due("P26 not set", -1, () -> x.dropMark(0));
         x.setMark(0, 3, true);
         Check.due("P26 place", 3, () -> x.dropMark(0));
@@ -197,7 +197,7 @@ final class PlaceTest {
     }
 
     private static void promise27() {
-        Cursorroom x = Check.room("abcd");
+        Room x = Check.room("abcd");
         x.setMark(7, 0, true);
         Check.due("P27 place", 0, () -> x.markAt(7));
         Check.due("P27 not set", -1, () -> x.markAt(8));
@@ -206,7 +206,7 @@ final class PlaceTest {
     }
 
     private static void promise28() {
-        Cursorroom x = Check.room("abcdefgh");
+        Room x = Check.room("abcdefgh");
         Check.due("P28 none", -1, () -> x.markBeside(4, true));
         x.setMark(5, 3, true);
         x.setMark(2, 3, false);

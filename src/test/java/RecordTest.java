@@ -13,7 +13,7 @@ final class RecordTest {
     }
 
     private static void promise36() {
-        Cursorroom x = new Cursorroom();
+        Room x = new Room();
         Check.due("P36 nothing", 0, () -> x.record(true));
         Check.tape(x, "ab");
         x.type();
@@ -40,7 +40,7 @@ final class RecordTest {
             x.moveCursors(0, 1);
         }
         Check.due("P36 40 at most", 40, () -> x.record(false));
-        Cursorroom y = UndoTest.full();
+        Room y = UndoTest.full();
         y.record(true);
         Check.dueThrow("P36 refused", IllegalStateException.class, y::type);
         Check.dueThrow("P36 erase refused", IllegalStateException.class, () -> y.erase(-1));
@@ -50,7 +50,7 @@ final class RecordTest {
     }
 
     private static void promise37() {
-        Cursorroom x = new Cursorroom();
+        Room x = new Room();
         Check.due("P37 nothing recorded", 0, () -> x.play(20));
         x.record(true);
         Check.tape(x, "ab");
@@ -76,7 +76,7 @@ final class RecordTest {
         Check.due("P37 done again", "a-a-a-a-bbbb", Check.text(x));
         Check.dueThrow("P37 times 21", IllegalArgumentException.class, () -> x.play(21));
         Check.dueThrow("P37 times -1", IllegalArgumentException.class, () -> x.play(-1));
-        Cursorroom y = Check.room("abcdef");
+        Room y = Check.room("abcdef");
         y.copy(0, 2);
         y.record(true);
         y.moveCursors(Cursorroom.LETTERS, 3);
@@ -93,7 +93,7 @@ final class RecordTest {
     }
 
     private static void groups() {
-        Cursorroom x = Check.room("abc");
+        Room x = Check.room("abc");
         x.record(true);
         x.erase(1);
         x.record(false);
@@ -104,7 +104,7 @@ final class RecordTest {
         Check.due("P37 it stays open", 1, () -> Check.bit(x.group(false)));
         x.undo(1);
         Check.due("P37 the group undone", "bc", Check.text(x));
-        Cursorroom y = Check.room("abc");
+        Room y = Check.room("abc");
         y.record(true);
         y.moveCursors(0, 1);
         y.record(false);
@@ -114,7 +114,7 @@ final class RecordTest {
     }
 
     private static void ways() {
-        Cursorroom x = Check.room("ab cd\nef\n\ngh");
+        Room x = Check.room("ab cd\nef\n\ngh");
         x.record(true);
         x.moveCursors(Cursorroom.WORDS, 2);
         x.moveCursors(Cursorroom.LINES, 1);
@@ -134,7 +134,7 @@ final class RecordTest {
     }
 
     private static void refused() {
-        Cursorroom x = Check.room("a".repeat(2990));
+        Room x = Check.room("a".repeat(2990));
         x.record(true);
         x.moveCursors(0, 1);
         Check.tape(x, "bcd");
@@ -143,7 +143,7 @@ final class RecordTest {
         Check.due("P37 up to the refused step", 5, () -> x.play(20));
         Check.due("P37 what was done stays", 2999, () -> x.count(0));
         Check.due("P37 the step ahead of it too", "13", Check.cursors(x));
-        Cursorroom y = Check.room("\n");
+        Room y = Check.room("\n");
         Check.tape(y, "a");
         y.record(true);
         y.moveCursors(0, -1);
@@ -164,7 +164,7 @@ final class RecordTest {
     }
 
     private static void folds() {
-        Cursorroom x = Check.room("a\nb\nc\nd");
+        Room x = Check.room("a\nb\nc\nd");
         x.record(true);
         x.moveCursors(0, 1);
         x.moveCursors(0, 2);

@@ -9,7 +9,7 @@ final class SearchTest {
     }
 
     private static int finds(String text, String pattern, boolean isWords) {
-        Cursorroom x = Check.room(text);
+        Room x = Check.room(text);
         Check.tape(x, pattern);
         return x.setPattern(isWords);
     }
@@ -25,7 +25,7 @@ final class SearchTest {
         Check.due("P29 signs between letters", 1, () -> finds("a-b -", "-", true));
         Check.due("P29 large and small letters", 1, () -> finds("Ab ab AB", "ab", false));
         Check.due("P29 overlapping whole words", 2, () -> finds("a a a", "a a", true));
-        Cursorroom x = Check.room("a".repeat(50));
+        Room x = Check.room("a".repeat(50));
         Check.dueThrow("P29 empty tape", IllegalStateException.class, () -> x.setPattern(false));
         Check.tape(x, "a".repeat(40));
         Check.due("P29 40 letters", 11, () -> x.setPattern(false));
@@ -37,7 +37,7 @@ final class SearchTest {
     }
 
     private static void promise30() {
-        Cursorroom x = Check.room("ab ab abc");
+        Room x = Check.room("ab ab abc");
         Check.dueThrow("P30 no pattern", IllegalStateException.class, () -> x.find(0, true));
         Check.dueThrow("P30 place first", IndexOutOfBoundsException.class, () -> x.find(10, true));
         Check.tape(x, "ab");

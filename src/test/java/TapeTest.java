@@ -12,7 +12,7 @@ final class TapeTest {
     }
 
     private static void promise01() {
-        Cursorroom x = new Cursorroom();
+        Room x = new Room();
         for (int what = 0; what <= 7; what++) {
             int w = what;
             Check.due("P1 count " + w, what == 1 || what == 2 ? 1 : 0, () -> x.count(w));
@@ -35,14 +35,14 @@ final class TapeTest {
     }
 
     private static void promise02() {
-        Cursorroom x = new Cursorroom();
+        Room x = new Room();
         Check.due("P2 zero puts none", 0, () -> x.feed(0));
         Check.due("P2 highest byte first", 3, () -> x.feed(0x616263L));
         x.type();
         Check.due("P2 letters", "abc", Check.text(x));
         Check.due("P2 zeros between are left out", 6, () -> x.feed(0x7800790000000a00L));
         Check.due("P2 eight letters", 14, () -> x.feed(0x7e20097a7a7a7a7aL));
-        Cursorroom y = new Cursorroom();
+        Room y = new Room();
         y.feed(0x7800790000000a00L);
         y.feed(0x7e20097a7a7a7a7aL);
         y.type();
@@ -63,7 +63,7 @@ final class TapeTest {
     }
 
     private static void promise03() {
-        Cursorroom x = new Cursorroom();
+        Room x = new Room();
         Check.due("P3 empty", 0, x::clearTape);
         Check.feed(x, "hello");
         Check.due("P3 length before", 5, x::clearTape);
@@ -75,7 +75,7 @@ final class TapeTest {
     }
 
     private static void promise04() {
-        Cursorroom x = Check.room("one\ntwo");
+        Room x = Check.room("one\ntwo");
         Check.due("P4 part", 5, () -> x.copy(2, 7));
         Check.due("P4 letters of the clip", 5, () -> x.count(6));
         Check.due("P4 text stays", "one\ntwo", Check.text(x));
@@ -99,10 +99,10 @@ final class TapeTest {
     }
 
     private static void promise05() {
-        Cursorroom x = Check.room("abcdef\nx\n\n\tyz");
+        Room x = Check.room("abcdef\nx\n\n\tyz");
         Check.due("P5 letters taken", 5, () -> x.copyBlock(0, 4, 1, 3));
         Check.due("P5 letters of the rows", 12, () -> x.count(6));
-        Cursorroom y = Check.room("abcdef\nx\n\n\tyz");
+        Room y = Check.room("abcdef\nx\n\n\tyz");
         Check.due("P5 rows", 4, () -> y.copyBlock(0, 2, 2, 4));
         y.setCursor(13);
         y.paste();

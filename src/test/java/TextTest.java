@@ -15,7 +15,7 @@ final class TextTest {
     }
 
     private static void promise38() {
-        Cursorroom x = Check.room("ab, c_1\n\n-x\n");
+        Room x = Check.room("ab, c_1\n\n-x\n");
         Check.due("P38 letters", 12, () -> x.count(0));
         Check.due("P38 lines", 4, () -> x.count(1));
         Check.cursors(x, 1, 2, 12);
@@ -39,18 +39,18 @@ final class TextTest {
     }
 
     private static void promise39() {
-        Cursorroom x = Check.room("a\n\t ~");
+        Room x = Check.room("a\n\t ~");
         Check.due("P39 letter", 97, () -> x.letterAt(0));
         Check.due("P39 line end", 10, () -> x.letterAt(1));
         Check.due("P39 tab", 9, () -> x.letterAt(2));
         Check.due("P39 last", 126, () -> x.letterAt(4));
         Check.dueThrow("P39 the end", IndexOutOfBoundsException.class, () -> x.letterAt(5));
         Check.dueThrow("P39 below", IndexOutOfBoundsException.class, () -> x.letterAt(-1));
-        Check.dueThrow("P39 empty", IndexOutOfBoundsException.class, () -> new Cursorroom().letterAt(0));
+        Check.dueThrow("P39 empty", IndexOutOfBoundsException.class, () -> new Room().letterAt(0));
     }
 
     private static void promise40() {
-        Cursorroom x = Check.room("ab\n\nc\n");
+        Room x = Check.room("ab\n\nc\n");
         int[] lines = {0, 0, 0, 1, 2, 2, 3};
         for (int place = 0; place < lines.length; place++) {
             int p = place;
@@ -58,13 +58,13 @@ final class TextTest {
         }
         Check.dueThrow("P40 above", IndexOutOfBoundsException.class, () -> x.lineOf(7));
         Check.dueThrow("P40 below", IndexOutOfBoundsException.class, () -> x.lineOf(-1));
-        Cursorroom y = Check.room("\n".repeat(299));
+        Room y = Check.room("\n".repeat(299));
         Check.due("P40 line 299", 299, () -> y.lineOf(299));
         Check.due("P40 line 255", 255, () -> y.lineOf(255));
     }
 
     private static void promise41() {
-        Cursorroom x = Check.room("ab\tc\t\td\n\te");
+        Room x = Check.room("ab\tc\t\td\n\te");
         int[] columns = {0, 1, 2, 4, 5, 8, 12, 13, 0, 4, 5};
         for (int place = 0; place < columns.length; place++) {
             int p = place;
@@ -82,7 +82,7 @@ final class TextTest {
     }
 
     private static void promise42() {
-        Cursorroom x = Check.room("ab\tcd\n\n\te");
+        Room x = Check.room("ab\tcd\n\n\te");
         int[] places = {0, 1, 2, 3, 3, 4, 5, 5};
         for (int column = 0; column < places.length; column++) {
             int c = column;
@@ -98,7 +98,7 @@ final class TextTest {
     }
 
     private static void promise43() {
-        Cursorroom x = Check.room("\ta");
+        Room x = Check.room("\ta");
         Check.due("P43 first", 4, () -> x.setTab(8));
         Check.due("P43 used", 8, () -> x.columnOf(1));
         Check.due("P43 then", 8, () -> x.setTab(1));
@@ -110,14 +110,14 @@ final class TextTest {
     }
 
     private static void promise44() {
-        Check.due("P44 empty", 0, () -> new Cursorroom().hash());
+        Check.due("P44 empty", 0, () -> new Room().hash());
         for (String text : new String[] {"a", "ab\tc\n", "a long text that goes round and round ~~~"}) {
             Check.due("P44 " + text.length(), text.hashCode(), () -> Check.room(text).hash());
         }
     }
 
     private static void promise45() {
-        Check.due("P45 empty", 0.0, new Cursorroom().meanLine());
+        Check.due("P45 empty", 0.0, new Room().meanLine());
         Check.due("P45 thirds", 4.0 / 3.0, Check.room("ab\n\ncd").meanLine());
         Check.due("P45 line ends alone", 0.0, Check.room("\n\n").meanLine());
         Check.due("P45 one line", 5.0, Check.room("a b\tc").meanLine());

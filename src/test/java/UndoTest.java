@@ -17,23 +17,30 @@ final class UndoTest {
     }
 
     /** A room with 150 acts and 150 letters in two lines. */
-    static Cursorroom full() {
-        Cursorroom x = Check.room("\n");
+    static Room full() {
+        Room x = full149();
+        x.type();
+        return x;
+    }
+
+    /** A room with 149 acts and 149 letters in two lines. */
+    static Room full149() {
+        Room x = Check.room("\n");
         x.setCursor(1);
         x.feed('a');
-        for (int act = 0; act < 149; act++) {
+        for (int act = 1; act < 149; act++) {
             x.type();
         }
         return x;
     }
 
-    private static void put(Cursorroom x, String letters) {
+    private static void put(Room x, String letters) {
         Check.tape(x, letters);
         x.type();
     }
 
     private static void promise16() {
-        Cursorroom x = new Cursorroom();
+        Room x = new Room();
         Check.due("P16 nothing", 0, () -> x.undo(1));
         put(x, "a");
         put(x, "b");
@@ -50,7 +57,7 @@ final class UndoTest {
     }
 
     private static void promise17() {
-        Cursorroom x = new Cursorroom();
+        Room x = new Room();
         Check.due("P17 nothing", 0, () -> x.redo(1));
         put(x, "a");
         put(x, "b");
@@ -73,7 +80,7 @@ final class UndoTest {
     }
 
     private static void promise18() {
-        Cursorroom x = new Cursorroom();
+        Room x = new Room();
         Check.dueThrow("P18 none", java.util.NoSuchElementException.class, () -> x.branch(0));
         put(x, "a");
         put(x, "z");
@@ -107,7 +114,7 @@ final class UndoTest {
     }
 
     private static void promise19() {
-        Cursorroom x = new Cursorroom();
+        Room x = new Room();
         Check.due("P19 none open", 0, () -> Check.bit(x.group(true)));
         put(x, "a");
         Check.due("P19 kept with the first", 1, () -> x.acts(0));
@@ -131,7 +138,7 @@ final class UndoTest {
         Check.due("P19 done again whole", "abc", Check.text(x));
         Check.due("P19 mark again", "0:1", Check.marks(x));
         closers();
-        Cursorroom z = Check.room("abc");
+        Room z = Check.room("abc");
         z.group(true);
         z.setCursor(2);
         z.type();
@@ -144,7 +151,7 @@ final class UndoTest {
     }
 
     private static void closers() {
-        Cursorroom y = new Cursorroom();
+        Room y = new Room();
         y.group(true);
         put(y, "a");
         Check.dueThrow("P19 undo(0)", IllegalArgumentException.class, () -> y.undo(0));
@@ -164,7 +171,7 @@ final class UndoTest {
     }
 
     private static void promise20() {
-        Cursorroom x = new Cursorroom();
+        Room x = new Room();
         put(x, "a");
         put(x, "b");
         put(x, "c");
@@ -184,7 +191,7 @@ final class UndoTest {
 
     /** Terms 4: what undoing and doing again bring back. */
     private static void states() {
-        Cursorroom x = Check.room("a\nb\nc\nd");
+        Room x = Check.room("a\nb\nc\nd");
         x.setCursor(7);
         x.setMark(3, 2, true);
         x.fold(0, 1);
@@ -215,14 +222,14 @@ final class UndoTest {
         Check.due("T4 the lean before", "3:2", Check.marks(x));
     }
 
-    private static String all(Cursorroom x) {
+    private static String all(Room x) {
         return Check.text(x).replace("\n", "/") + " | " + Check.cursors(x) + " | " + Check.marks(x) + " | "
                 + Check.hidden(x);
     }
 
     /** Terms 4: several acts undone by one call come back one by one as they were right ahead of the next one. */
     private static void between() {
-        Cursorroom x = Check.room("1\n2\n3");
+        Room x = Check.room("1\n2\n3");
         Check.tape(x, "a");
         x.type();
         x.fold(1, 2);
@@ -262,7 +269,7 @@ final class UndoTest {
 
     /** Terms 4: a redo that reaches nothing, or an undo, leaves all as it is; errors() as well. */
     private static void rightAhead() {
-        Cursorroom x = Check.room("1\n2\n3");
+        Room x = Check.room("1\n2\n3");
         Check.tape(x, "a");
         x.type();
         x.undo(2);
@@ -286,9 +293,23 @@ final class UndoTest {
         Check.due("P49 what is kept stays", "a1/2/3 | 2 4 | 0:3 | 2", all(x));
     }
 
+    private static final int[] FOLDED = {9, 61, 63, 65, 127, 129, 192, 194, 255, 257, 297, 299};
+
+    /** All of a large state in few calls: the lines that are hidden are those of FOLDED, or fewer. */
+    private static String allFull(Room x) {
+        StringBuilder shown = new StringBuilder();
+        for (int line : FOLDED) {
+            if (line >= x.count(1) || !x.isHidden(line)) {
+                shown.append(' ').append(line);
+            }
+        }
+        return x.count(0) + " " + x.hash() + " | " + Check.cursors(x) + " | " + Check.marks(x) + " | "
+                + x.count(4) + " hidden, not" + shown;
+    }
+
     /** Terms 4 at the bounds: all letters, 300 lines, 8 cursors, 16 marks. */
     private static void fullStates() {
-        Cursorroom x = new Cursorroom();
+        Room x = new Room();
         Check.tape(x, "\n\n\n\n\n\n\n\n\n\n\n\n\n");
         for (int time = 0; time < 23; time++) {
             x.type();
@@ -304,33 +325,33 @@ final class UndoTest {
         }
         Check.tape(x, "~~~~~~~~~~~~~");
         x.type();
-        for (int line : new int[] {8, 60, 62, 64, 126, 128, 191, 193, 254, 256, 296}) {
-            x.fold(line, line + 1);
+        for (int line : FOLDED) {
+            x.fold(line - 1, line);
         }
-        x.fold(298, 299);
         Check.cursors(x, 0, 1, 1000, 2000, 2001, 2750, 2800, 2994);
         for (int mark = 0; mark < 16; mark++) {
             x.setMark(mark, 3000 - mark * 200, mark % 3 == 0);
         }
         Check.due("T4 letters", 3000, () -> x.count(0));
         Check.due("T4 lines", 300, () -> x.count(1));
-        String full = all(x);
+        String full = allFull(x);
+        Check.due("T4 hidden lines", true, full.endsWith("| 12 hidden, not"));
         x.undo(150);
         Check.due("T4 nothing", " | 0 |  | ", all(x));
         x.redo(150);
-        Check.due("T4 all of it", full, all(x));
+        Check.due("T4 all of it", full, allFull(x));
         Check.tape(x, "x");
         x.replace(100, 101);
-        String then = all(x);
+        String then = allFull(x);
         x.undo(1);
-        Check.due("T4 all of it ahead", full, all(x));
+        Check.due("T4 all of it ahead", full, allFull(x));
         x.redo(1);
-        Check.due("T4 all of it behind", then, all(x));
+        Check.due("T4 all of it behind", then, allFull(x));
         Check.due("P49 full", 0, x::errors);
     }
 
     private static void bound() {
-        Cursorroom x = full();
+        Room x = full();
         Check.due("T4 150 acts", 150, () -> x.acts(0));
         Check.dueThrow("T4 type refused", IllegalStateException.class, x::type);
         Check.dueThrow("T4 erase refused", IllegalStateException.class, () -> x.erase(-1));
@@ -349,7 +370,7 @@ final class UndoTest {
         Check.due("T4 all again", 150, () -> x.redo(150));
         Check.due("T4 text", 150, () -> x.count(0));
         Check.due("T4 errors", 0, x::errors);
-        Cursorroom y = Check.room("\n");
+        Room y = Check.room("\n");
         Check.tape(y, "a");
         for (int act = 1; act < 149; act++) {
             y.type();
