@@ -58,15 +58,13 @@ final class Edge {
         Check.due(name(what) + ", nothing happened", Probe.of(maker.get()), Probe.of(x));
     }
 
-    static final String BUSY = "ab\tcd ef\n  gh\n\n\tij kl\nmn\nop ef st\nuv\n";
-
     /**
      * A room in which nothing is as at first: 37 letters in 8 lines, 3 cursors, marks that lean left and right,
      * folds, views, a tab width, a tape, a block as clip, a pattern, a kept text, continuations, an open group
      * with an act, and steps that are being recorded.
      */
     static Room busy() {
-        Room x = Check.room("ab\tcd ef\n  gh\n\n\tij kl\nmn\nop ef st\nuv");
+        Room x = Check.room("ab\tcd ef\n gef\n\n\tij kl\nmn\nop ef st\nuv");
         x.keep();
         x.setMark(0, 8, true);
         x.setMark(3, 20, false);
@@ -96,6 +94,17 @@ final class Edge {
         x.fold(3, 4);
         x.fold(5, 7);
         Check.tape(x, "xy\n");
+        return x;
+    }
+
+    /** A room with this text, behind which other letters stood that were undone: they must not count any more. */
+    static Room gone(String text, String more) {
+        Room x = Check.room(text);
+        x.setCursor(text.length());
+        Check.tape(x, more);
+        x.type();
+        x.undo(1);
+        x.clearTape();
         return x;
     }
 

@@ -84,6 +84,7 @@ final class EdgeActTest {
         e.nothing("none ahead of the beginning", 0, () -> Check.room("abc"), r -> r.erase(-1));
         e.nothing("by 0", 0, () -> at(Check.room("abc"), 1), r -> r.erase(0));
         e.nothing("an empty text", 0, Room::new, r -> r.erase(100) + r.erase(-100));
+        e.due("letters that are gone are none", 1, () -> at(Edge.gone("ab", "cd"), 1).erase(100));
 
         e.says("(What several cursors remove is removed together.)");
         Room z = at(Check.room("abcdefgh"), 1, 3, 6);
@@ -191,6 +192,12 @@ final class EdgeActTest {
         x.setCursor(4);
         x.paste();
         e.dueText("the letters of the clip", "adefbc", x);
+        Room row = Check.room("ab\ncd");
+        row.copyBlock(0, 2, 0, 2);
+        row.cut(1, 4);
+        row.addCursor(2);
+        row.paste();
+        e.dueText("a row then, no block any more", "b\ncadb\nc", row);
         x.copyBlock(0, 1, 0, 3);
         x.cut(2, 2);
         e.due("an empty part empties the clip", 0, () -> x.count(6));
@@ -301,6 +308,13 @@ final class EdgeActTest {
         return at(block(Check.room("a".repeat(many) + "\n" + "a".repeat(37)), 0, 2, 0, 1), 1498);
     }
 
+    /** An empty text, and a block of so many rows of so many blanks. */
+    private static Room rows(int rows, int many) {
+        Room x = block(Edge.lines(rows), 0, rows, 0, many);
+        x.replace(0, rows - 1);
+        return x;
+    }
+
     private static void promise10Refused(Edge e) {
         e.says("if it is refused");
         e.refused("a row up to 3001 letters", Edge.STATE, () -> clip(Edge.letters(2900), 0, 101), Room::paste);
@@ -317,6 +331,15 @@ final class EdgeActTest {
         e.refused("a block up to 301 lines", Edge.STATE, () -> at(block(Edge.lines(299), 0, 3, 0, 1), 298), Room::paste);
         e.due("a block up to 300 lines", 301, () -> at(block(Edge.lines(299), 0, 2, 0, 1), 298).paste());
         e.refused("300 rows of 40 letters", Edge.STATE, () -> block(Edge.lines(300), 0, 300, 0, 40), Room::paste);
+        e.refused("300 rows of 40 letters into an empty text", Edge.STATE, () -> rows(300, 40), Room::paste);
+        e.refused("79 rows of 37 letters and 78 line ends: 3001", Edge.STATE, () -> rows(79, 37), Room::paste);
+        e.due("75 rows of 39 letters, 74 line ends and a letter: 3000", 3000, () -> {
+            Room r = rows(75, 39);
+            Check.tape(r, "a");
+            r.replace(0, 0);
+            r.setCursor(0);
+            return r.paste();
+        });
         e.refused("the act 151", Edge.STATE, () -> clip(UndoTest.full(), 0, 1), Room::paste);
         e.refused("the act 151, a block", Edge.STATE, () -> block(UndoTest.full(), 0, 1, 0, 1), Room::paste);
         e.due("an empty row is no act", 150, () -> UndoTest.full().paste());

@@ -66,6 +66,14 @@ final class EdgeKeptTest {
         e.due("by one letter more", 2, () -> differences("ab", "abc"));
         e.due("by a blank", 2, () -> differences("a", "a "));
         e.due("by a tab in place of a blank", 2, () -> differences(" ", "\t"));
+        e.due("letters that are gone do not count", 0, () -> {
+            Room r = Check.room("ab");
+            r.keep();
+            Check.tape(r, "\nc");
+            r.replace(2, 2);
+            r.undo(1);
+            return r.differences();
+        });
         e.due("lines of the same sum", 2, () -> differences("Aa", "BB"));
         e.due("the last line, though no line end follows", 0, () -> differences("a\nb", "a\nb"));
 
@@ -126,6 +134,11 @@ final class EdgeKeptTest {
         }, Room::errors);
         e.nothing("cursors, marks, hidden lines, continuations", 0, EdgeKeptTest::closed, Room::errors);
         e.nothing("150 acts", 0, UndoTest::full, Room::errors);
+        e.nothing("eight cursors", 0, () -> {
+            Room r = Check.room("abcdefgh");
+            Check.cursors(r, 0, 1, 2, 3, 4, 5, 6, 8);
+            return r;
+        }, Room::errors);
         Room open = Edge.busy();
         Room closed = Edge.busy();
         closed.group(false);

@@ -25,6 +25,9 @@ final class EdgeLineTest {
         Room z = Check.room("a  \n  b");
         z.indent(0, 0, -8);
         e.dueText("not behind another letter, nor in the next line", "a  \n  b", z);
+        Room gone = Edge.gone("a\n ", " \t");
+        e.due("blanks that are gone are none", 1, () -> gone.indent(1, 1, -8));
+        e.dueText("the one that there was", "a\n", gone);
         e.nothing("none put into an empty text", 0, Room::new, r -> r.indent(0, 0, 8));
         e.nothing("none removed where there are none", 0, () -> Check.room("a\n\nb"), r -> r.indent(0, 2, -8));
 
@@ -112,6 +115,8 @@ final class EdgeLineTest {
         dueWrapped(e, "the last letter is a blank", "aaa/", "aaa ", 3);
         dueWrapped(e, "the next line stays", "a/b\nc d", "a b\nc d", 1);
         e.nothing("an empty line", 0, () -> Check.room("\na b"), r -> r.wrap(0, 1));
+        e.due("a blank that is gone", 0, () -> Edge.gone("aaaaaa", " b").wrap(0, 3));
+        e.due("a blank that is gone, no more than width letters ahead", 0, () -> Edge.gone("aaa", " b").wrap(0, 3));
 
         e.says("`line`: a line");
         e.due("0", 1, () -> Check.room("a b\nc d").wrap(0, 1));
@@ -176,6 +181,9 @@ final class EdgeLineTest {
         Room z = Check.room("a\n  ");
         z.joinLines(0, 1);
         e.dueText("all up to the end of the text", "a ", z);
+        Room gone = Edge.gone("a\n ", "  ");
+        gone.joinLines(0, 1);
+        e.dueText("not blanks that are gone", "a ", gone);
         e.nothing("one line", 3, () -> Check.room("a\n b\nc"), r -> r.joinLines(1, 1));
         e.nothing("an empty text", 1, Room::new, r -> r.joinLines(0, 0));
 
@@ -251,6 +259,7 @@ final class EdgeLineTest {
         e.due("an empty tape", "3", Check.cursors(none));
 
         e.says("Without a find nothing happens");
+        e.due("a find that is gone", -1, () -> search(Edge.gone("a", "b"), "ab", false, "-").replaceNext());
         e.nothing("no find", -1, () -> at(search(Check.room("ab ab"), "abc", false, "x"), 1, 4), Room::replaceNext);
         e.nothing("an empty text", -1, () -> search(new Room(), "a", false, "x"), Room::replaceNext);
 
@@ -280,6 +289,7 @@ final class EdgeLineTest {
         Room z = search(Check.room("ab"), "b", false, "ab");
         z.replaceAll();
         e.dueText("what is put is not searched", "aab", z);
+        e.due("a find that is gone", 0, () -> search(Edge.gone("a", "b"), "ab", false, "-").replaceAll());
         e.nothing("none", 0, () -> search(Check.room("ab"), "c", false, "x"), Room::replaceAll);
         e.nothing("an empty text", 0, () -> search(new Room(), "c", false, "x"), Room::replaceAll);
 

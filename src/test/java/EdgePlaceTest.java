@@ -27,6 +27,13 @@ final class EdgePlaceTest {
         return x;
     }
 
+    /** A room with letters behind the end that are gone, and one cursor. */
+    private static Room gone(String text, String more, int place) {
+        Room x = Edge.gone(text, more);
+        x.setCursor(place);
+        return x;
+    }
+
     private static Room eight() {
         return at("abcdefghij", 0, 1, 2, 3, 4, 5, 6, 7);
     }
@@ -162,6 +169,7 @@ final class EdgePlaceTest {
     private static void promise23Letters(Edge e) {
         e.says("LETTERS: by so many places, as far as there are some");
         e.due("up to the end", "3", moved(at("abc", 1), 0, 2));
+        e.due("not over letters that are gone", "3", moved(gone("abc", "d", 0), 0, 5));
         e.due("not over it", "3", moved(at("abc", 1), 0, 3));
         e.due("up to the beginning", "0", moved(at("abc", 2), 0, -2));
         e.due("not over it either", "0", moved(at("abc", 2), 0, -3));
@@ -229,6 +237,9 @@ final class EdgePlaceTest {
         e.due("back over signs alone", "0", moved(at("- ab", 2), 2, -1));
         e.due("back at the beginning", "0", moved(at("ab cd", 0), 2, -50));
         e.due("back more often than there are words", "0", moved(at("ab cd", 5), 2, -3));
+        e.due("the word that ends a full text", "3000", moved(Edge.letters(3000), 2, 1));
+        e.due("letters that are gone", "2", moved(gone("ab", "cd", 0), 2, 1));
+        e.due("signs that are gone", "2", moved(gone("--", "--a", 0), 2, 1));
         e.due("an empty text", "0", moved(new Room(), 2, 1));
         e.due("an empty text, back", "0", moved(new Room(), 2, -1));
         for (char letter : new char[] {'A', 'Z', 'a', 'z', '0', '9', '_'}) {
@@ -260,6 +271,14 @@ final class EdgePlaceTest {
         e.due("back at the place 0", "0", moved(at(text, 0), 4, -1));
         e.due("none is less: the place 0", "0", moved(at("\n\na", 2), 4, -1));
         e.due("blank lines alone", "0", moved(at("\n \n\t", 3), 4, -1));
+        e.due("a full text with a blank line at its end", "3000", moved(at("a".repeat(2990) + "\n" + " ".repeat(9), 0), 4, 1));
+        Room lines = Check.room("abc\n");
+        Check.tape(lines, "\n\nb");
+        lines.replace(0, 4);
+        lines.undo(1);
+        lines.setCursor(0);
+        e.due("a paragraph that is gone", "4", moved(lines, 4, 1));
+        e.due("letters of a line that are gone", "4", moved(gone("a\n\n ", "b", 0), 4, 1));
         e.due("blank lines alone, forward", "4", moved(at("\n \n\t", 0), 4, 1));
 
         e.says("A paragraph begins at a line that is not blank and is the line 0 or follows a blank one");

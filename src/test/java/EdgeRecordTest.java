@@ -175,6 +175,17 @@ final class EdgeRecordTest {
         opened.play(1);
         put(opened, "c");
         e.due("a group that begins with it", 2, () -> opened.acts(0));
+        Room ways = Check.room("ab cd\nef\n\ngh");
+        ways.record(true);
+        ways.moveCursors(Cursorroom.WORDS, 2);
+        ways.moveCursors(Cursorroom.LINES, 1);
+        ways.moveCursors(Cursorroom.PARAGRAPHS, 1);
+        ways.moveCursors(Cursorroom.ENDS, 1);
+        ways.moveCursors(Cursorroom.LETTERS, -1);
+        ways.record(false);
+        ways.setCursor(0);
+        ways.play(1);
+        e.due("moves of all ways", "11", Check.cursors(ways));
         e.nothing("nothing recorded", 0, () -> Check.room("abc"), r -> r.play(20));
         Room moves = Check.room("abc");
         moves.record(true);

@@ -55,6 +55,11 @@ final class EdgeShownTest {
         e.due("that overlap", 4, () -> tape("aaaaa", "aa").setPattern(false));
         e.due("none", 0, () -> tape("aaaaa", "ab").setPattern(false));
         e.due("the whole text", 1, () -> tape("a\tb\n", "a\tb\n").setPattern(false));
+        e.due("letters that are gone", 1, () -> {
+            Room r = Edge.gone("aba", "b");
+            Check.tape(r, "ab");
+            return r.setPattern(false);
+        });
         e.due("a letter more than the text", 0, () -> tape("ab", "abc").setPattern(false));
         e.due("an empty text", 0, () -> tape("", "a").setPattern(false));
         e.due("3000", 3000, () -> {
@@ -106,6 +111,12 @@ final class EdgeShownTest {
         e.says("Returns the find; NONE if there is none");
         e.due("none behind", Cursorroom.NONE, () -> search("aba", "a", false).find(3, true));
         e.due("none ahead of 0", Cursorroom.NONE, () -> search("aba", "a", false).find(0, false));
+        e.due("a find that is gone", Cursorroom.NONE, () -> {
+            Room r = Edge.gone("aba", "b");
+            Check.tape(r, "ab");
+            r.setPattern(false);
+            return r.find(1, true);
+        });
         e.due("fewer letters than the pattern has are left", Cursorroom.NONE, () -> search("abab", "ab", false).find(3, true));
         e.due("an empty text", Cursorroom.NONE, () -> search("", "a", false).find(0, true));
         e.due("an empty text, back", Cursorroom.NONE, () -> search("", "a", false).find(0, false));
@@ -193,6 +204,11 @@ final class EdgeShownTest {
         e.refused("at the end of the last one", Edge.STATE, () -> at(EIGHT, 9), r -> r.fold(1, 4));
         e.refused("the last of eight cursors", Edge.STATE, () -> at(EIGHT, 0, 1, 2, 3, 10, 11, 12, 9), r -> r.fold(1, 4));
         e.refused("at the end of the text", Edge.STATE, () -> at(EIGHT, 15), r -> r.fold(6, 7));
+        e.due("a cursor that is no more", 3, () -> {
+            Room r = at(EIGHT, 0, 5, 7);
+            r.setCursor(0);
+            return r.fold(1, 4);
+        });
         e.due("at the end of the line ahead, and at the beginning of the one behind", 3, () -> at(EIGHT, 3, 10).fold(1, 4));
     }
 
@@ -383,6 +399,9 @@ final class EdgeShownTest {
 
         e.says("Returns the line; NONE if there is none");
         e.due("behind the last line", Cursorroom.NONE, () -> viewed(folded(), 1, 5).rowOf(1, 4));
+        e.due("behind the line 299", Cursorroom.NONE, () -> viewed(Edge.lines(300), 298, 40).rowOf(1, 39));
+        e.due("right behind the line 299", Cursorroom.NONE, () -> viewed(Edge.lines(300), 299, 2).rowOf(1, 1));
+        e.due("a line that is gone", Cursorroom.NONE, () -> viewed(Edge.gone("a", "\nb"), 0, 2).rowOf(1, 1));
         e.due("all others are hidden", Cursorroom.NONE, () -> viewed(hidden, 0, 2).rowOf(1, 1));
         e.due("the last row of a high view", Cursorroom.NONE, () -> viewed(folded(), MOST, 40).rowOf(1, 39));
         e.due("row 1 of an empty text", Cursorroom.NONE, () -> new Room().rowOf(0, 1));

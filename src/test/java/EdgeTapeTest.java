@@ -127,6 +127,12 @@ final class EdgeTapeTest {
         x.copyBlock(0, 1, 0, 3);
         x.copy(0, 0);
         e.due("in place of a block", 0, () -> x.count(6));
+        Room row = Check.room("ab\ncd");
+        row.copyBlock(0, 2, 0, 2);
+        row.copy(1, 4);
+        row.addCursor(5);
+        row.paste();
+        e.dueText("a row then, no block any more", "b\ncab\ncdb\nc", row);
 
         e.says("`from`: the place at which it begins");
         e.due("0", 3, () -> Check.room("abc").copy(0, 3));
@@ -172,6 +178,8 @@ final class EdgeTapeTest {
         tab.setCursor(4);
         tab.paste();
         e.dueText("the number of a letter, not its column; no line end", "\tab\n\tab", tab);
+
+        e.due("letters that are gone are none", 1, () -> Edge.gone("a", "bc").copyBlock(0, 1, 0, 3));
 
         e.says("`line`: the first line");
         e.due("0", 2, () -> Check.room("ab\ncd").copyBlock(0, 1, 0, 2));

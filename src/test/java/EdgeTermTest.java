@@ -513,7 +513,18 @@ final class EdgeTermTest {
         Room not = folded();
         not.indent(0, 7, -1);
         e.due("an act that does not happen", "2 3 5 6", Check.hidden(not));
-        e.refused("an act that is refused", Edge.STATE, () -> {
+        e.refused("an act that is refused at 300 lines", Edge.STATE, () -> {
+            Room r = tape(Edge.lines(300), "\n");
+            r.fold(1, 3);
+            r.fold(4, 6);
+            return r;
+        }, r -> r.replace(2, 2));
+        e.refused("one ahead of hidden lines", Edge.STATE, () -> {
+            Room r = tape(Edge.lines(300), "\n");
+            r.fold(1, 3);
+            return r;
+        }, Room::type);
+        e.refused("an act that is refused at 3000 letters", Edge.STATE, () -> {
             Room r = tape(folded(), "x".repeat(200));
             for (int time = 0; time < 14; time++) {
                 r.replace(0, 0);
@@ -613,6 +624,17 @@ final class EdgeTermTest {
         return Check.text(x).replace('\n', '/') + " " + Check.cursors(x) + " " + Check.marks(x) + " " + Check.hidden(x);
     }
 
+    private static final int[] HIDDEN = {1, 3, 62, 64, 66, 126, 128, 191, 193, 255, 257, 297, 299};
+
+    /** How many of those lines are hidden, and how many others. */
+    private static String hiddenLines(Room x) {
+        int many = 0;
+        for (int line : HIDDEN) {
+            many += Check.bit(x.isHidden(line));
+        }
+        return many + " of them, " + (x.count(4) - many);
+    }
+
     private static void term4(Edge e) {
         e.says("Acts are kept in a tree: an act is kept as the latest continuation of the act behind which it was done");
         Room x = tape(new Room(), "a");
@@ -642,6 +664,19 @@ final class EdgeTermTest {
         e.due("all of it", before, state(y));
         y.redo(1);
         e.due("what it was right ahead of the undoing is kept", behind.replace("2:0", "2:0 3:0"), state(y));
+        Room lines = tape(Edge.lines(300), "a");
+        for (int line : HIDDEN) {
+            lines.fold(line - 1, line);
+        }
+        lines.type();
+        for (int line : HIDDEN) {
+            lines.unfold(line);
+        }
+        lines.fold(98, 99);
+        lines.undo(1);
+        e.due("hidden lines of 300", HIDDEN.length + " of them, 0", hiddenLines(lines));
+        lines.redo(1);
+        e.due("and when it was undone", "0 of them, 1", hiddenLines(lines));
         Room when = tape(Check.room("a\nb\nc"), "-");
         when.setCursor(2);
         when.type();
@@ -687,6 +722,26 @@ final class EdgeTermTest {
         again.undo(1);
         again.redo(1);
         e.due("when it was undone last", "2", Check.cursors(again));
+        Room lean = tape(Check.room("ab"), "-");
+        lean.setMark(0, 1, true);
+        lean.setMark(1, 1, false);
+        lean.type();
+        lean.setMark(0, 2, false);
+        lean.setMark(1, 2, true);
+        lean.undo(1);
+        lean.replace(1, 1);
+        e.due("how marks leant right ahead of it", "0:1 1:2", Check.marks(lean));
+        lean.undo(1);
+        lean.branch(0);
+        lean.setMark(0, 0, true);
+        lean.setMark(1, 0, false);
+        lean.redo(1);
+        lean.replace(2, 2);
+        e.due("how they leant when it was undone", "0:3 1:2", Check.marks(lean));
+        lean.undo(2);
+        lean.redo(2);
+        lean.replace(2, 2);
+        e.due("how the one that leans left leans behind two that were done again", "0:4 1:2", Check.marks(lean));
         Room first = UndoTest.full();
         first.undo(150);
         first.redo(150);
@@ -793,6 +848,7 @@ final class EdgeTermTest {
         e.due("the whole text", 1, () -> finds("ab", "ab"));
         e.due("one of a word ahead", 0, () -> finds("xab", "ab"));
         e.due("one of a word behind", 0, () -> finds("abx", "ab"));
+        e.due("one of a word behind the end, that is gone", 1, () -> tape(Edge.gone("ab", "c"), "ab").setPattern(true));
         e.due("none of a word on both sides", 1, () -> finds("\nab\t", "ab"));
         e.due("_ is one of a word", 0, () -> finds("_ab ab_", "ab"));
         e.due("a pattern of other letters", 0, () -> finds("a-b", "-"));

@@ -9,6 +9,7 @@ public final class EdgeTests {
     static void run(Path file) throws IOException {
         Document document = new Document(file);
         Check.due("sections of the document", 55, () -> document.sections().size());
+        ProbeTest.run();
         EdgeTermTest.run(document);
         EdgeTapeTest.run(document);
         EdgeActTest.run(document);

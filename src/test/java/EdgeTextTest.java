@@ -57,6 +57,7 @@ final class EdgeTextTest {
         e.due("words: one, the whole text", 1, () -> count("aZ_09", 7));
         e.due("words: at the beginning and the end", 2, () -> count("a b", 7));
         e.due("words: between signs", 1, () -> count(" a ", 7));
+        e.due("words: letters that are gone", 1, () -> Edge.gone("a ", "b").count(7));
         e.due("words: a line end parts them", 2, () -> count("a\nb", 7));
         e.due("words: 1500", 1500, () -> Check.room("a ".repeat(1500)).count(7));
 
@@ -92,6 +93,7 @@ final class EdgeTextTest {
 
         e.says("if there is no such letter");
         e.refused("the end", Edge.INDEX, r -> r.letterAt(37));
+        e.refused("a letter that is gone", Edge.INDEX, () -> Edge.gone("a", "b"), r -> r.letterAt(1));
         e.refused("-1", Edge.INDEX, r -> r.letterAt(-1));
         e.refused("0 of an empty text", Edge.INDEX, Room::new, r -> r.letterAt(0));
         e.refused("3000 of a full text", Edge.INDEX, () -> Edge.letters(3000), r -> r.letterAt(3000));
@@ -122,6 +124,7 @@ final class EdgeTextTest {
         e.refused("behind the end", Edge.INDEX, r -> r.lineOf(38));
         e.refused("-1", Edge.INDEX, r -> r.lineOf(-1));
         e.refused("1 of an empty text", Edge.INDEX, Room::new, r -> r.lineOf(1));
+        e.refused("a place that is gone", Edge.INDEX, () -> Edge.gone("a", "b"), r -> r.lineOf(2));
         e.refused("far above", Edge.INDEX, r -> r.lineOf(MOST));
         e.refused("far below", Edge.INDEX, r -> r.lineOf(LEAST));
     }
@@ -180,6 +183,7 @@ final class EdgeTextTest {
         e.refused("8 of 8", Edge.INDEX, r -> r.placeAt(8, 0));
         e.refused("-1", Edge.INDEX, r -> r.placeAt(-1, 0));
         e.refused("1 of an empty text", Edge.INDEX, Room::new, r -> r.placeAt(1, 0));
+        e.refused("a line that is gone", Edge.INDEX, () -> Edge.gone("a", "\n"), r -> r.placeAt(1, 0));
         e.refused("far above", Edge.INDEX, r -> r.placeAt(MOST, 0));
         e.refused("far below", Edge.INDEX, r -> r.placeAt(LEAST, 0));
         e.refused("8 of 8, and a column below 0", Edge.INDEX, r -> r.placeAt(8, -1));

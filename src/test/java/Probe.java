@@ -100,6 +100,10 @@ final class Probe {
         state();
         tell("replaceAll", room::replaceAll);
         state();
+        tell("indent", () -> room.indent(0, 0, 1));
+        tell("wrap", () -> room.wrap(0, 1));
+        tell("joinLines", () -> room.joinLines(0, room.count(1) - 1));
+        state();
         tell("differences", room::differences);
     }
 
