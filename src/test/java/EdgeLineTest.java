@@ -14,6 +14,14 @@ final class EdgeLineTest {
         promise15(new Edge(document, "P15"));
     }
 
+    /** A room with 300 lines, behind a call that was refused because a block was far too large. */
+    private static Room refused() {
+        Room x = Check.room("a b\n".repeat(299));
+        x.copyBlock(0, 300, 0, 40);
+        Check.outcome(x::paste);
+        return x;
+    }
+
     private static void promise11(Edge e) {
         e.says("Puts blanks at the beginning of each line of a range that has letters, or removes there as many letters");
         Room x = Check.room("a\n\n \n\t\nb");
@@ -85,6 +93,7 @@ final class EdgeLineTest {
         e.due("two lines up to 3000 letters", 2, () -> Check.room("a\n" + "a".repeat(2996)).indent(0, 1, 1));
         e.due("removing from a full text", 1, () -> Check.room(" " + "a".repeat(2999)).indent(0, 0, -1));
         e.refused("the act 151", Edge.STATE, UndoTest::full, r -> r.indent(0, 1, 1));
+        e.due("not because a call ahead of it was", 299, () -> refused().indent(0, 299, 1));
         e.due("nothing to remove is no act", 0, () -> UndoTest.full().indent(0, 1, -1));
         e.due("nothing to put is no act", 0, () -> UndoTest.full().indent(0, 0, 1));
     }
@@ -157,6 +166,12 @@ final class EdgeLineTest {
         e.due("300 lines", 2, () -> Check.room("a b c" + "\n".repeat(297)).wrap(0, 1));
         e.due("300 lines, a width that breaks once", 1, () -> Check.room("a b c" + "\n".repeat(298)).wrap(0, 3));
         e.refused("the act 151", Edge.STATE, EdgeLineTest::blanksAndActs, r -> r.wrap(0, 1));
+        e.due("not because a call ahead of it was", 1, () -> {
+            Room r = refused();
+            r.joinLines(298, 299);
+            Check.outcome(r::paste);
+            return r.wrap(0, 1);
+        });
         e.due("nothing is no act", 0, () -> blanksAndActs().wrap(1, 1));
     }
 
@@ -219,6 +234,7 @@ final class EdgeLineTest {
 
         e.says("if it is refused");
         e.refused("the act 151", Edge.STATE, UndoTest::full, r -> r.joinLines(0, 1));
+        e.due("not because a call ahead of it was", 299, () -> refused().joinLines(298, 299));
         e.due("one line is no act", 2, () -> UndoTest.full().joinLines(1, 1));
     }
 
