@@ -20,7 +20,7 @@ public final class AllTests {
         EdgeTests.run(Path.of(args.length > 1 ? args[1] : "../shared/DOC.md"));
         FaceTest.run(args.length > 0 ? args[0] : ".");
         RoomTest.run();
-        ModelTest.run(140);
+        ModelTest.run(400);
         System.out.println(Check.passed + " passed, " + Check.failed + " failed");
         if (Check.failed != 0 || Check.passed == 0) {
             System.exit(1);

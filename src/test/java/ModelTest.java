@@ -1,6 +1,10 @@
 import java.util.Arrays;
 
-/** Long runs of calls, the same ones on the class and on the model; each answer and the whole state must be the same. */
+/**
+ * Long runs of calls, the same ones on the class and on the model: each answer must be the same, and behind some of
+ * the calls all that can be asked. No object is asked behind its 512th call; so each run is made several times, up
+ * to other calls, and asked there.
+ */
 final class ModelTest {
     private static final String[] WORDS = {
         "a", "b", "ab", "aba", " ", "  ", "\t", "\n", "\n\n", "a b", " a", "b\n", "\n a", "x_1", "-", "a\tb", " \n", "ab cd ef"};
@@ -14,7 +18,12 @@ final class ModelTest {
     private static final int LONG = 3;
     private static final int FULL = 6;
 
-    private final Cursorroom x = new Cursorroom();
+    // So many calls of a run go ahead of the questions, at least, and from one time that it is made to the next.
+    private static final int FIRST_STOP = 12;
+    private static final int STOPS = 7;
+    private static final int CALLS_BETWEEN = 60;
+
+    private final Room x = new Room();
     private final Model m = new Model();
     private final StringBuilder log = new StringBuilder();
     private final int kind;
@@ -31,34 +40,52 @@ final class ModelTest {
     static void run(int runs) {
         int good = 0;
         for (int run = 0; run < runs; run++) {
-            ModelTest test = new ModelTest(run);
-            String fault = test.runCalls(512);
-            if (fault == null) {
-                good++;
-            } else {
-                String log = test.log.toString();
-                System.out.println("run " + run + " " + log.substring(Math.max(0, log.length() - 1500)) + "\n" + fault);
+            boolean isGood = isGood(run, Room.MOST_CALLS, false);
+            for (int stop = 0; stop < STOPS && isGood; stop++) {
+                isGood = isGood(run, FIRST_STOP + run * 7 % CALLS_BETWEEN + stop * CALLS_BETWEEN, true);
             }
+            good += isGood ? 1 : 0;
         }
         Check.due("runs in which the class answers as the model", runs, good);
     }
 
+    private static boolean isGood(int run, int calls, boolean isAsked) {
+        ModelTest test = new ModelTest(run);
+        String fault = test.runCalls(calls);
+        fault = fault != null || !isAsked ? fault : test.unlike();
+        if (fault != null) {
+            String log = test.log.toString();
+            System.out.println("run " + run + " " + log.substring(Math.max(0, log.length() - 1500)) + "\n" + fault);
+        }
+        return fault == null;
+    }
+
+    /** 2990 letters in 300 lines: a tape of 190 letters, and 14 times one of 200. */
     private void fillUp() {
         String line = "ab cd e\n\tf";
-        for (int act = 0; act < 15; act++) {
-            x.clearTape();
-            m.clearTape();
-            for (int at = 0; at < (act < 14 ? 200 : 190); at += 10) {
-                for (char letter : line.toCharArray()) {
-                    x.feed(letter);
-                    m.feed(letter);
-                }
-            }
+        for (int at = 0; at < 190; at += 10) {
+            feedBoth(line);
+        }
+        x.type();
+        m.type();
+        feedBoth(line);
+        for (int act = 0; act < 14; act++) {
             x.type();
             m.type();
         }
         x.clearTape();
         m.clearTape();
+    }
+
+    private void feedBoth(String letters) {
+        for (int at = 0; at < letters.length(); at += 8) {
+            long number = 0;
+            for (char letter : letters.substring(at, Math.min(letters.length(), at + 8)).toCharArray()) {
+                number = number << 8 | letter;
+            }
+            x.feed(number);
+            m.feed(number);
+        }
     }
 
     private int below(int bound) {
@@ -85,13 +112,10 @@ final class ModelTest {
     }
 
     private String runCalls(int calls) {
-        for (int call = 0; call < calls; call++) {
+        while (x.calls() < calls) {
             String fault = step();
-            if (fault == null && (call % 4 == 0 || kind != LONG && kind != FULL)) {
-                fault = unlike();
-            }
             if (fault != null) {
-                return "call " + call + ": " + fault;
+                return "call " + x.calls() + ": " + fault;
             }
         }
         return null;
@@ -343,10 +367,6 @@ final class ModelTest {
             int w = what;
             fault = both("cursorAt(" + w + ")", () -> x.cursorAt(w), () -> m.cursorAt(w));
         }
-        for (int what = -1; what <= m.lines().length && fault == null; what++) {
-            int w = what;
-            fault = both("isHidden(" + w + ")", () -> Check.bit(x.isHidden(w)), () -> Check.bit(m.isHidden(w)));
-        }
         fault = fault != null ? fault : both("hash()", x::hash, m::hash);
         fault = fault != null ? fault : both("markBeside(" + place + ", " + is + ")",
                 () -> x.markBeside(place, is), () -> m.markBeside(place, is));
@@ -355,12 +375,16 @@ final class ModelTest {
         fault = fault != null ? fault : both("rowOf(" + view + ", " + row + ")",
                 () -> x.rowOf(view, row), () -> m.rowOf(view, row));
         fault = fault != null ? fault : both("letterAt(" + place + ")", () -> x.letterAt(place), () -> m.letterAt(place));
-        if (fault == null && chance(8)) {
+        if (fault == null) {
             fault = both("differences()", x::differences, m::differences);
             fault = fault != null ? fault : both("sameShare()",
                     () -> Float.floatToIntBits(x.sameShare()), () -> Float.floatToIntBits(m.sameShare()));
             fault = fault != null ? fault : both("meanLine()",
                     () -> Double.doubleToLongBits(x.meanLine()), () -> Double.doubleToLongBits(m.meanLine()));
+        }
+        for (int what = -1; what <= m.lines().length && x.calls() < Room.MOST_CALLS && fault == null; what++) {
+            int w = what;
+            fault = both("isHidden(" + w + ")", () -> Check.bit(x.isHidden(w)), () -> Check.bit(m.isHidden(w)));
         }
         return fault;
     }

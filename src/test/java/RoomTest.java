@@ -110,8 +110,8 @@ final class RoomTest {
     }
 
     /** A room with 3000 letters and 15 acts or more, none of which was ever undone. */
-    private static Cursorroom full(int acts) {
-        Cursorroom x = new Cursorroom();
+    private static Room full(int acts) {
+        Room x = new Room();
         fill(x, 3000, 0x6120612061612061L);
         x.clearTape();
         x.feed(10);
@@ -123,10 +123,10 @@ final class RoomTest {
 
     private static void neverUndone() {
         for (int time = 0; time < 2; time++) {
-            Cursorroom x = full(150);
+            Room x = full(150);
             Check.due("room: letters", 3000, () -> x.count(0));
             Check.due("room: acts", 150, () -> x.acts(1));
-            Cursorroom y = full(150);
+            Room y = full(150);
             single("undo(150)", time, 150, () -> x.undo(150));
             single("redo(150)", time, 150, () -> x.redo(150));
             single("errors()", time, 0, y::errors);
@@ -157,7 +157,7 @@ final class RoomTest {
         }
     }
 
-    private static void actCalls(int time, Cursorroom x) {
+    private static void actCalls(int time, Room x) {
         x.clearTape();
         x.feed('a');
         x.setPattern(false);
@@ -192,7 +192,7 @@ final class RoomTest {
         });
     }
 
-    private static void otherCalls(int time, Cursorroom x) {
+    private static void otherCalls(int time, Room x) {
         each("clearTape", time, x::clearTape);
         each("copy", time, () -> x.copy(0, 3000));
         each("acts", time, () -> x.acts(0) + x.acts(1) + x.acts(2) + x.acts(3));
@@ -223,15 +223,15 @@ final class RoomTest {
 
     // ---- dear runs
 
-    private static void dearRun(String what, Consumer<Cursorroom> calls) {
-        calls.accept(new Cursorroom());
-        Cursorroom x = new Cursorroom();
+    private static void dearRun(String what, Consumer<Room> calls) {
+        calls.accept(new Room());
+        Room x = new Room();
         Set<Object> first = reachedFrom(x);
         atMost(what, CALLS * BYTES_OF_A_CALL, bytesOf(() -> calls.accept(x)));
         Check.due("room: nothing new stays of " + what, true, first.containsAll(reachedFrom(x)));
     }
 
-    private static void fill(Cursorroom x, int letters, long eight) {
+    private static void fill(Room x, int letters, long eight) {
         for (int at = 0; at < 200; at += 8) {
             x.feed(eight);
         }
@@ -240,26 +240,20 @@ final class RoomTest {
         }
     }
 
-    private static void acts(Cursorroom x) {
+    private static void acts(Room x) {
         fill(x, 2200, 0x6161616161610a61L);
         x.clearTape();
-        for (int act = 0; act < 200; act++) {
-            try {
-                x.feed('a');
-                x.clearTape();
-                x.feed('b');
-                x.replace(0, 1);
-            } catch (IllegalStateException e) {
-                break;
-            }
+        x.feed('b');
+        for (int act = x.acts(0); act < 150; act++) {
+            x.replace(0, 1);
         }
-        for (int time = 0; time < 40; time++) {
+        for (int time = 0; time < 160; time++) {
             x.undo(150);
             x.redo(150);
         }
     }
 
-    private static void errors(Cursorroom x) {
+    private static void errors(Room x) {
         fill(x, 2200, 0x6161616161610a61L);
         x.clearTape();
         x.feed('b');
@@ -271,16 +265,16 @@ final class RoomTest {
         }
     }
 
-    private static void differences(Cursorroom x) {
+    private static void differences(Room x) {
         fill(x, 2000, 0x616161616161610aL);
         x.keep();
-        for (int time = 0; time < 400; time++) {
+        for (int time = 0; time < 230; time++) {
             x.differences();
             x.sameShare();
         }
     }
 
-    private static void play(Cursorroom x) {
+    private static void play(Room x) {
         x.feed('a');
         x.record(true);
         for (int step = 0; step < 20; step++) {
@@ -293,7 +287,7 @@ final class RoomTest {
         }
     }
 
-    private static void replaceAll(Cursorroom x) {
+    private static void replaceAll(Room x) {
         fill(x, 2800, 0x6161616161616161L);
         x.clearTape();
         x.feed('a');
@@ -307,22 +301,22 @@ final class RoomTest {
         }
     }
 
-    private static void undo(Cursorroom x) {
+    private static void undo(Room x) {
         x.feed('a');
         for (int time = 0; time < 150; time++) {
             x.type();
             x.undo(1);
         }
-        for (int time = 0; time < 80; time++) {
+        for (int time = 0; time < 60; time++) {
             x.branch(time);
             x.redo(1);
             x.undo(1);
         }
     }
 
-    private static void clip(Cursorroom x) {
+    private static void clip(Room x) {
         fill(x, 2000, 0x616161616161610aL);
-        for (int time = 0; time < 400; time++) {
+        for (int time = 0; time < 110; time++) {
             x.copyBlock(0, x.count(1), 0, 40);
             x.copy(0, x.count(0));
         }
