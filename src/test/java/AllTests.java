@@ -5,7 +5,7 @@ public final class AllTests {
     private AllTests() {
     }
 
-    /** Takes the folder of the compiled classes, and the document. */
+    /** Takes the folder of the compiled classes, the document, and the README. */
     public static void main(String[] args) throws java.io.IOException {
         TapeTest.run();
         ActTest.run();
@@ -19,6 +19,7 @@ public final class AllTests {
         KeptTest.run();
         EdgeTests.run(Path.of(args.length > 1 ? args[1] : "../shared/DOC.md"));
         FaceTest.run(args.length > 0 ? args[0] : ".");
+        ReadmeTest.run(Path.of(args.length > 2 ? args[2] : "README.md"));
         RoomTest.run();
         ModelTest.run(400);
         System.out.println(Check.passed + " passed, " + Check.failed + " failed");
